@@ -71,6 +71,12 @@ public final class GladBasket {
     private static final int PASS = 3;
     private static final int TOP_TIMES = 20;
 
+    // The pieces of a CLAUSE's code, as they follow one another.
+    private static final int FIRST_SUM = 0;
+    private static final int SECOND_SUM = 1;
+    private static final int IF_TEST = 2;
+    private static final int PIECES = 3;
+
     private static final String LAW_WORDS = "good base now weight glad lacks place month mood";
     private static final int LAW_WORD_COUNT = 9;
     private static final String ORDER_WORDS = "month done latest figure lacking now weight";
@@ -260,7 +266,8 @@ public final class GladBasket {
             tape.length = 0;
             return refuse(NO_ROOM);
         }
-        if (!readTape(false)) {
+        faultPlace = reader.read(false);
+        if (faultPlace != NONE) {
             return refuse(WRONG_TEXT);
         }
         return grant(basket.enact(new Program(reader.program)));
@@ -268,7 +275,8 @@ public final class GladBasket {
 
     public int orders() {
         stoppedAt = NONE;
-        if (!readTape(true)) {
+        faultPlace = reader.read(true);
+        if (faultPlace != NONE) {
             return refuse(WRONG_TEXT);
         }
         before.copyFrom(basket);
@@ -308,35 +316,36 @@ public final class GladBasket {
         return grant(was);
     }
 
-    private boolean readTape(boolean asOrders) {
-        faultPlace = reader.read(asOrders);
-        tape.length = 0;
-        return faultPlace == NONE;
-    }
-
     /** False, if the CLAUSE can't be; one whose "if" is not so is passed over. */
     private boolean runOnce(Program text, int clause) {
         fillOrderWords(text);
-        if (!machine.allows(text, clause, orderWords)) {
+        if (machine.run(text, clause, IF_TEST, orderWords) != 1) {
             return true;
         }
-        int kind = text.kinds[clause];
-        int first = NONE;
-        int second = 0;
-        if (kind != PASS) {
-            first = machine.run(text, text.starts[clause], text.mids[clause], orderWords);
-        }
-        if (kind == WEIGH) {
-            second = machine.run(text, text.mids[clause], text.tails[clause], orderWords);
-        }
-        if (first == BROKEN || second == BROKEN) {
+        int good = machine.run(text, clause, FIRST_SUM, orderWords);
+        int weight = machine.run(text, clause, SECOND_SUM, orderWords);
+        if (good == BROKEN || weight == BROKEN) {
             return false;
         }
-        int told = perform(kind, first, second);
+        int told;
+        switch (text.kinds[clause]) {
+            case LACK:
+                told = changeLacking(good, 1);
+                break;
+            case FIND:
+                told = changeLacking(good, 0);
+                break;
+            case WEIGH:
+                told = changeWeight(good, weight);
+                break;
+            default:
+                told = passMonth();
+                break;
+        }
         if (told < 0) {
             return false;
         }
-        if (kind == WEIGH) {
+        if (text.kinds[clause] == WEIGH) {
             orderWords[WORD_LATEST] = told;
         }
         orderWords[WORD_DONE]++;
@@ -357,19 +366,6 @@ public final class GladBasket {
     }
 
     // ---- To LACK, to FIND, to WEIGH, a MONTH: what ORDERS do as well as calls
-
-    private int perform(int kind, int good, int weight) {
-        switch (kind) {
-            case LACK:
-                return changeLacking(good, 1);
-            case FIND:
-                return changeLacking(good, 0);
-            case WEIGH:
-                return changeWeight(good, weight);
-            default:
-                return passMonth();
-        }
-    }
 
     private int changeLacking(int good, int lacks) {
         if (!basket.has(good)) {
@@ -734,7 +730,8 @@ public final class GladBasket {
         }
 
         int read(int good, int trait) {
-            return has(good) && within(trait, 0, TRAITS - 1) ? traits[good * TRAITS + trait] : NONE;
+            boolean there = good >= 0 && good < goods && trait >= 0 && trait < TRAITS;
+            return there ? traits[good * TRAITS + trait] : NONE;
         }
 
         void write(int good, int trait, int value) {
@@ -750,16 +747,14 @@ public final class GladBasket {
         int lackingCount() {
             int count = 0;
             for (int good = 0; good < goods; good++) {
-                if (lacks(good)) {
-                    count++;
-                }
+                count += read(good, LACKING);
             }
             return count;
         }
 
         /** The GOOD whose prices and PLACE hold for this one: its STAND-IN, if it LACKS (NONE: it is out). */
         int sourceOf(int good) {
-            return lacks(good) ? read(good, STAND_IN) : good;
+            return read(good, LACKING) == 1 ? read(good, STAND_IN) : good;
         }
 
         int ownWeight(int person, int good) {
@@ -870,11 +865,15 @@ public final class GladBasket {
     /** The bytes, and the TOKEN of them that is being read. */
     private static final class Tape {
         private static final int BLANK = 32;
+        private static final int SIGN = 0;
+        private static final int LETTERS = 1;
+        private static final int DIGITS = 2;
         private final int[] bytes = new int[BYTES];
         int length = 0;
         // Where the TOKEN begins and what is behind it; at the end both are the length.
         int start = 0;
         private int stop = 0;
+        private int kind = SIGN;
 
         void append(int number) {
             for (int shift = 24; shift >= 0 && length < BYTES; shift -= 8) {
@@ -884,7 +883,7 @@ public final class GladBasket {
         }
 
         int byteAt(int place) {
-            return within(place, 0, Math.min(length, BYTES) - 1) ? bytes[place] : NONE;
+            return place >= 0 && place < length && place < BYTES ? bytes[place] : NONE;
         }
 
         void rewind() {
@@ -892,25 +891,24 @@ public final class GladBasket {
             step();
         }
 
+        /** Goes to the next TOKEN. */
         void step() {
             start = stop;
             while (start < length && byteAt(start) == BLANK) {
                 start++;
             }
+            kind = kindOf(byteAt(start));
             stop = Math.min(length, start + 1);
-            int kind = kindAt(start);
-            while (kind != 0 && stop < length && kindAt(stop) == kind) {
+            while (kind != SIGN && stop < length && kindOf(byteAt(stop)) == kind) {
                 stop++;
             }
         }
 
-        /** 1 a letter, 2 a digit, 0 what stands alone. */
-        private int kindAt(int place) {
-            int value = byteAt(place);
-            if (within(value, 'a', 'z')) {
-                return 1;
+        private static int kindOf(int value) {
+            if (value >= 'a' && value <= 'z') {
+                return LETTERS;
             }
-            return within(value, '0', '9') ? 2 : 0;
+            return value >= '0' && value <= '9' ? DIGITS : SIGN;
         }
 
         boolean ended() {
@@ -927,12 +925,12 @@ public final class GladBasket {
         }
 
         boolean isNumber() {
-            return kindAt(start) == 2;
+            return kind == DIGITS;
         }
 
-        /** Its value, if it is digits; more than TOP_NUMBER is told as some number above that. */
+        /** Its value, if it is digits; one above TOP_NUMBER is told as the next above that. */
         int number() {
-            if (!isNumber()) {
+            if (kind != DIGITS) {
                 return NONE;
             }
             int value = 0;
@@ -942,43 +940,29 @@ public final class GladBasket {
             return value;
         }
 
-        boolean isWord(String word) {
-            return wordIn(word) == 0;
-        }
-
         /** Which of the words it is; the list has single blanks between them. */
         int wordIn(String list) {
             int index = 0;
-            int from = 0;
-            for (int to = 0; to <= list.length(); to++) {
-                if (to == list.length() || list.charAt(to) == ' ') {
-                    if (isPartOf(list, from, to)) {
+            int at = start;
+            boolean same = true;
+            for (int i = 0; i <= list.length(); i++) {
+                if (i == list.length() || list.charAt(i) == BLANK) {
+                    if (same && at == stop) {
                         return index;
                     }
                     index++;
-                    from = to + 1;
+                    at = start;
+                    same = true;
+                } else {
+                    same = same && at < stop && byteAt(at) == list.charAt(i);
+                    at++;
                 }
             }
             return NONE;
         }
-
-        private boolean isPartOf(String list, int from, int to) {
-            if (stop - start != to - from) {
-                return false;
-            }
-            for (int i = from; i < to && i < list.length(); i++) {
-                if (byteAt(start + i - from) != list.charAt(i)) {
-                    return false;
-                }
-            }
-            return true;
-        }
     }
 
-    /**
-     * A TEXT as code for the Machine. The code of a CLAUSE is that of its first SUM, from its start to its mid,
-     * of its second, from there to its tail, and of its TEST, from there to the next one's start.
-     */
+    /** A TEXT as code for the Machine. */
     private static final class Program {
         int size = 0;
         final int[] ops;
@@ -986,9 +970,8 @@ public final class GladBasket {
         int clauses = 0;
         final int[] kinds;
         final int[] times;
-        final int[] starts;
-        final int[] mids;
-        final int[] tails;
+        // Where each piece of each CLAUSE begins; behind them where the last one ends.
+        final int[] bounds;
         boolean asksFigure = false;
 
         /** Room for any TEXT: no TOKEN makes more than one step of code. */
@@ -997,9 +980,7 @@ public final class GladBasket {
             args = new int[BYTES];
             kinds = new int[CLAUSES];
             times = new int[CLAUSES];
-            starts = new int[CLAUSES + 1];
-            mids = new int[CLAUSES];
-            tails = new int[CLAUSES];
+            bounds = new int[CLAUSES * PIECES + 1];
         }
 
         /** One to keep, with no more room than it needs. */
@@ -1010,9 +991,7 @@ public final class GladBasket {
             args = Arrays.copyOf(from.args, size);
             kinds = Arrays.copyOf(from.kinds, clauses);
             times = Arrays.copyOf(from.times, clauses);
-            starts = Arrays.copyOf(from.starts, clauses + 1);
-            mids = Arrays.copyOf(from.mids, clauses);
-            tails = Arrays.copyOf(from.tails, clauses);
+            bounds = Arrays.copyOf(from.bounds, clauses * PIECES + 1);
             asksFigure = from.asksFigure;
         }
 
@@ -1020,6 +999,20 @@ public final class GladBasket {
             size = 0;
             clauses = 0;
             asksFigure = false;
+        }
+
+        void beginClause(int kind) {
+            if (clauses < CLAUSES) {
+                kinds[clauses] = kind;
+                times[clauses] = 1;
+            }
+        }
+
+        void endPiece(int piece) {
+            int at = clauses * PIECES + piece + 1;
+            if (within(at, 0, bounds.length - 1)) {
+                bounds[at] = size;
+            }
         }
 
         /** Where the step stands. */
@@ -1052,58 +1045,52 @@ public final class GladBasket {
             this.tape = tape;
         }
 
-        /** The place of the FAULT; NONE without. */
+        /** The place of the FAULT; NONE without. The TAPE is empty then. */
         int read(boolean ordersAreDue) {
             asOrders = ordersAreDue;
             parts = 0;
             program.clear();
             tape.rewind();
-            for (int clause = 0; clause < CLAUSES; clause++) {
-                if (!readClause(clause)) {
-                    return tape.start;
-                }
-                if (tape.ended()) {
-                    return NONE;
-                }
-                if (!tape.isSign(';')) {
-                    return tape.start;
-                }
-                tape.step();
+            boolean fine = true;
+            boolean more = true;
+            for (int clause = 0; clause < CLAUSES && fine && more; clause++) {
+                fine = readClause();
+                more = fine && readSign(';');
             }
-            return tape.start;
+            int place = fine && !more && tape.ended() ? NONE : tape.start;
+            tape.length = 0;
+            return place;
         }
 
-        private boolean readClause(int clause) {
+        private boolean readClause() {
             int kind = tape.wordIn(asOrders ? ORDER_CLAUSES : LAW_CLAUSES);
-            if (kind == NONE || !within(clause, 0, CLAUSES - 1)) {
+            if (kind == NONE) {
                 return false;
             }
             tape.step();
-            program.kinds[clause] = kind;
-            program.times[clause] = 1;
-            program.starts[clause] = program.size;
-            // Both languages have their clause without a SUM last.
+            program.beginClause(kind);
+            // Both languages have their one without a SUM last.
             if (kind != PASS && !readSum(0)) {
                 return false;
             }
-            program.mids[clause] = program.size;
+            program.endPiece(FIRST_SUM);
             if (asOrders && kind == WEIGH && !(readExactly("by") && readSum(0))) {
                 return false;
             }
-            program.tails[clause] = program.size;
-            if (asOrders && tape.isWord("times") && !readTimes(clause)) {
+            program.endPiece(SECOND_SUM);
+            if (asOrders && readExactly("times") && !readTimes()) {
                 return false;
             }
-            if (tape.isWord("if") && !(readExactly("if") && readTest(0))) {
+            if (readExactly("if") && !readTest(0)) {
                 return false;
             }
-            program.clauses = clause + 1;
-            program.starts[clause + 1] = program.size;
+            program.endPiece(IF_TEST);
+            program.clauses++;
             return true;
         }
 
         private boolean readExactly(String word) {
-            if (!tape.isWord(word)) {
+            if (tape.wordIn(word) == NONE) {
                 return false;
             }
             tape.step();
@@ -1118,21 +1105,19 @@ public final class GladBasket {
             return true;
         }
 
-        private boolean readTimes(int clause) {
-            tape.step();
+        private boolean readTimes() {
             int number = tape.number();
-            if (!within(number, 1, TOP_TIMES) || !within(clause, 0, CLAUSES - 1)) {
+            if (!within(number, 1, TOP_TIMES) || !within(program.clauses, 0, CLAUSES - 1)) {
                 return false;
             }
-            program.times[clause] = number;
+            program.times[program.clauses] = number;
             tape.step();
             return true;
         }
 
         private boolean readTest(int depth) {
             boolean fine = readBoth(depth);
-            for (int i = 0; i < BYTES && fine && tape.isWord("or"); i++) {
-                tape.step();
+            for (int i = 0; i < BYTES && fine && readExactly("or"); i++) {
                 int skip = program.emit(DO_OR, 0);
                 fine = readBoth(depth);
                 program.aimHere(skip);
@@ -1142,8 +1127,7 @@ public final class GladBasket {
 
         private boolean readBoth(int depth) {
             boolean fine = readPlain(depth);
-            for (int i = 0; i < BYTES && fine && tape.isWord("and"); i++) {
-                tape.step();
+            for (int i = 0; i < BYTES && fine && readExactly("and"); i++) {
                 int skip = program.emit(DO_AND, 0);
                 fine = readPlain(depth);
                 program.aimHere(skip);
@@ -1154,39 +1138,26 @@ public final class GladBasket {
         /** A row of "not" is read in a loop: no bound is told for it, so it must not go deeper. */
         private boolean readPlain(int depth) {
             boolean not = false;
-            for (int i = 0; i < BYTES && tape.isWord("not"); i++) {
-                tape.step();
+            for (int i = 0; i < BYTES && readExactly("not"); i++) {
                 not = !not;
             }
-            boolean fine = tape.isSign('(') ? readInBrackets(depth) : readComparison(depth);
-            if (fine && not) {
+            boolean fine;
+            if (tape.isSign('(')) {
+                fine = depth < BRACKETS && readSign('(') && readTest(depth + 1) && readSign(')');
+            } else {
+                fine = readSum(depth);
+                int sign = tape.signIn(TEST_SIGNS);
+                fine = fine && sign != NONE;
+                if (fine) {
+                    tape.step();
+                    fine = readSum(depth);
+                    program.emit(DO_LESS + sign, 0);
+                }
+            }
+            if (not) {
                 program.emit(DO_NOT, 0);
             }
             return fine;
-        }
-
-        private boolean readInBrackets(int depth) {
-            if (depth >= BRACKETS) {
-                return false;
-            }
-            tape.step();
-            return readTest(depth + 1) && readSign(')');
-        }
-
-        private boolean readComparison(int depth) {
-            if (!readSum(depth)) {
-                return false;
-            }
-            int sign = tape.signIn(TEST_SIGNS);
-            if (sign == NONE) {
-                return false;
-            }
-            tape.step();
-            if (!readSum(depth)) {
-                return false;
-            }
-            program.emit(DO_LESS + sign, 0);
-            return true;
         }
 
         private boolean readSum(int depth) {
@@ -1215,11 +1186,7 @@ public final class GladBasket {
 
         private boolean readPart(int depth) {
             if (tape.isSign('[')) {
-                if (depth >= BRACKETS) {
-                    return false;
-                }
-                tape.step();
-                return readSum(depth + 1) && readSign(']');
+                return depth < BRACKETS && readSign('[') && readSum(depth + 1) && readSign(']');
             }
             if (parts >= PARTS) {
                 return false;
@@ -1263,40 +1230,28 @@ public final class GladBasket {
         // A TEXT has no more PARTS than that which could stand open.
         private final int[] stack = new int[PARTS + 1];
 
-        /** Whether a CLAUSE's "if" is so, if it has one. */
-        boolean allows(Program text, int clause, int[] words) {
-            if (!within(clause, 0, text.clauses - 1)) {
-                return false;
-            }
-            int from = text.tails[clause];
-            int to = text.starts[clause + 1];
-            return from >= to || run(text, from, to, words) == 1;
-        }
-
-        /** What a CLAUSE of a LAW tells (1, if it has no SUM); BROKEN, if it does not HOLD. */
-        int told(Program law, int clause, int[] words) {
-            if (!allows(law, clause, words)) {
+        /** What a piece of a CLAUSE tells; 1, if there is nothing of it: no "if" is so, "bars" bars. */
+        int run(Program text, int clause, int piece, int[] words) {
+            int bound = clause * PIECES + piece;
+            if (bound < 0 || bound + 1 >= text.bounds.length) {
                 return BROKEN;
             }
-            int from = law.starts[clause];
-            int to = law.mids[clause];
-            return from >= to ? 1 : run(law, from, to, words);
-        }
-
-        int run(Program text, int from, int to, int[] words) {
-            int end = nearest(to, 0, text.size);
+            int at = text.bounds[bound];
+            int end = Math.min(text.size, text.bounds[bound + 1]);
+            if (at < 0 || at >= end) {
+                return 1;
+            }
             int top = 0;
-            int at = Math.max(0, from);
             // Skips go forward alone, so there are no more turns than steps of code.
             for (int turn = at; turn < end && at < end; turn++) {
                 int op = text.ops[at];
                 int arg = text.args[at];
                 at++;
                 if (op <= DO_WORD) {
-                    if (top >= stack.length) {
+                    if (top >= stack.length || op == DO_WORD && (arg < 0 || arg >= words.length)) {
                         return BROKEN;
                     }
-                    stack[top] = op == DO_NUMBER ? arg : wordValue(words, arg);
+                    stack[top] = op == DO_NUMBER ? arg : words[arg];
                     top++;
                 } else if (op <= DO_AND) {
                     if (top < 1) {
@@ -1320,10 +1275,6 @@ public final class GladBasket {
                 }
             }
             return top < 1 ? BROKEN : stack[0];
-        }
-
-        private static int wordValue(int[] words, int word) {
-            return within(word, 0, words.length - 1) ? words[word] : 0;
         }
 
         private static int join(int op, int left, int right) {
@@ -1357,7 +1308,7 @@ public final class GladBasket {
                     value = left == right ? 1 : 0;
                     break;
             }
-            return Math.abs(value) > TOP_SUM ? BROKEN : (int) value;
+            return value > TOP_SUM || value < -TOP_SUM ? BROKEN : (int) value;
         }
     }
 
@@ -1377,8 +1328,8 @@ public final class GladBasket {
             if (law != null) {
                 fillWords(basket, good);
                 for (int clause = law.clauses - 1; clause >= 0 && told == BROKEN; clause--) {
-                    if (law.kinds[clause] == what) {
-                        told = machine.told(law, clause, words);
+                    if (law.kinds[clause] == what && machine.run(law, clause, IF_TEST, words) == 1) {
+                        told = machine.run(law, clause, FIRST_SUM, words);
                     }
                 }
             }
@@ -1455,11 +1406,6 @@ public final class GladBasket {
 
         long side(int what) {
             return what == 0 ? above : below;
-        }
-
-        /** So many times it, cut. */
-        int cut(int times) {
-            return below == 0 ? 0 : (int) (above * times / below);
         }
 
         private static long commonDivisor(long a, long b) {
@@ -1569,17 +1515,24 @@ public final class GladBasket {
 
         /** PENSION. */
         int hundredths() {
-            return countOfAll() == 0 ? 100 : byRule(0).cut(100);
+            return countOfAll() == 0 ? 100 : cutTimes(100);
         }
 
         int thousandths() {
-            return byRule(0).cut(1000);
+            return cutTimes(1000);
+        }
+
+        /** So many times FIGURE 0, cut. */
+        private int cutTimes(int times) {
+            long below = weighed(bases);
+            return below == 0 ? 0 : (int) (times * weighed(nows) / below);
         }
     }
 
     /** All else that is found out without a change to the basket. */
     private static final class Paper {
         private static final int SETS = 256;
+        private static final int TOP_AMOUNT = 9;
         private static final int TOO_DEAR = 1000000;
         private static final int WIDTH = TOP_SOUGHT + 1;
         private final Judge judge;
@@ -1589,6 +1542,7 @@ public final class GladBasket {
         private final int[] amounts = new int[GOODS];
         private final int[] nows = new int[GOODS];
         private final int[] glads = new int[GOODS];
+        private final int[] mosts = new int[GOODS];
         // By a set of GOODS and a GOOD: the fewest STEPS from that one's PLACE through theirs.
         private final int[] stepsLeft = new int[SETS * GOODS];
         private final int[] places = new int[GOODS];
@@ -1604,48 +1558,48 @@ public final class GladBasket {
             this.figures = figures;
         }
 
-        private void loadNowsAndGlads(Basket basket) {
+        /** What each GOOD costs, how GLAD it makes, and how many of it can be had. */
+        private void loadWares(Basket basket) {
             Program law = basket.lawInForce();
             for (int good = 0; good < basket.goods && good < GOODS; good++) {
                 nows[good] = basket.read(good, NOW);
                 glads[good] = judge.tell(basket, law, good, GLADS);
+                boolean had = !basket.lacks(good) && judge.tell(basket, law, good, BARS) == 0;
+                mosts[good] = had ? TOP_AMOUNT : 0;
             }
         }
 
         /** What it costs at least to be GLAD by n; NONE, if it can't be. */
         int cheapest(Basket basket, int n) {
-            loadNowsAndGlads(basket);
+            loadWares(basket);
             int goods = Math.min(GOODS, basket.goods);
             int sought = nearest(n, 0, TOP_SOUGHT);
             for (int rest = 0; rest <= sought; rest++) {
                 least[goods * WIDTH + rest] = rest == 0 ? 0 : TOO_DEAR;
             }
             for (int good = goods - 1; good >= 0; good--) {
-                int most = mostOf(basket, good);
                 for (int rest = 0; rest <= sought; rest++) {
-                    int amount = bestAmount(good, rest, most);
-                    least[good * WIDTH + rest] = costWith(good, rest, amount);
+                    least[good * WIDTH + rest] = costWith(good, rest, bestAmount(good, rest));
                 }
             }
             int rest = sought;
             for (int good = 0; good < goods; good++) {
-                amounts[good] = bestAmount(good, rest, mostOf(basket, good));
+                amounts[good] = bestAmount(good, rest);
                 rest = Math.max(0, rest - amounts[good] * glads[good]);
             }
             return least[sought] >= TOO_DEAR ? NONE : least[sought];
         }
 
-        private int mostOf(Basket basket, int good) {
-            boolean barred = judge.tell(basket, basket.lawInForce(), good, BARS) == 1;
-            return barred || basket.lacks(good) ? 0 : 9;
-        }
-
         /** The lowest of the amounts of a GOOD that cost least: so the first row is found. */
-        private int bestAmount(int good, int rest, int most) {
+        private int bestAmount(int good, int rest) {
             int best = 0;
-            for (int amount = 1; amount <= most && (amount - 1) * glads[good] < rest; amount++) {
-                if (costWith(good, rest, amount) < costWith(good, rest, best)) {
+            int bestCost = costWith(good, rest, 0);
+            // More than is enough never costs less.
+            for (int amount = 1; amount <= mosts[good] && (amount - 1) * glads[good] < rest; amount++) {
+                int cost = costWith(good, rest, amount);
+                if (cost < bestCost) {
                     best = amount;
+                    bestCost = cost;
                 }
             }
             return best;
@@ -1663,23 +1617,23 @@ public final class GladBasket {
         /** The fewest STEPS of a ROUND. */
         int walk(Basket basket, int place) {
             int wanted = loadPlaces(basket);
-            for (int set = 1; set <= wanted && set < SETS; set++) {
-                if ((set & wanted) == set) {
-                    for (int from = 0; from < GOODS; from++) {
-                        int next = nextOn(places[from], set);
-                        stepsLeft[set * GOODS + from] = stepsBy(places[from], set, next);
+            for (int set = 1; set < wanted && set < SETS; set++) {
+                for (int from = 0; from < GOODS && (set & wanted) == set; from++) {
+                    if (((wanted & ~set) >> from & 1) == 1) {
+                        stepsLeft[set * GOODS + from] = shortest(places[from], set) / GOODS;
                     }
                 }
             }
             walkedCount = 0;
-            int next = nextOn(place, wanted);
-            int steps = stepsBy(place, wanted, next);
+            int steps = shortest(place, wanted) / GOODS;
+            int here = place;
             int set = wanted;
-            for (int turn = 0; turn < GOODS && within(next, 0, GOODS - 1); turn++) {
+            for (int turn = 0; turn < GOODS && set != 0; turn++) {
+                int next = shortest(here, set) % GOODS;
                 walked[turn] = next;
                 walkedCount = turn + 1;
+                here = places[next];
                 set &= ~(1 << next);
-                next = nextOn(places[next], set);
             }
             return steps;
         }
@@ -1696,26 +1650,28 @@ public final class GladBasket {
             return wanted;
         }
 
-        /** The lowest GOOD of a set by which the way through all of it is shortest; NONE of an empty set. */
-        private int nextOn(int place, int set) {
+        /**
+         * The fewest STEPS from a PLACE through a set (0 through none), times GOODS, and the GOOD to go to first:
+         * so the least of these has the lowest GOOD by which the way is shortest.
+         */
+        private int shortest(int place, int set) {
             int best = NONE;
-            for (int good = 0; good < GOODS; good++) {
-                if ((set >> good & 1) == 1
-                        && (best == NONE || stepsBy(place, set, good) < stepsBy(place, set, best))) {
-                    best = good;
+            for (int good = 0; good < GOODS && set < SETS; good++) {
+                if ((set >> good & 1) == 1) {
+                    int others = set & ~(1 << good);
+                    int steps = stepsBetween(place, places[good]);
+                    if (others > 0) {
+                        steps += stepsLeft[others * GOODS + good];
+                    }
+                    int way = steps * GOODS + good;
+                    best = best == NONE ? way : Math.min(best, way);
                 }
             }
-            return best;
+            return Math.max(0, best);
         }
 
-        /** STEPS from a PLACE through a set, to a GOOD of it first. */
-        private int stepsBy(int place, int set, int good) {
-            if (!within(good, 0, GOODS - 1) || !within(set, 1, SETS - 1)) {
-                return 0;
-            }
-            int others = set & ~(1 << good);
-            int way = Math.abs(place % SIDE - places[good] % SIDE) + Math.abs(place / SIDE - places[good] / SIDE);
-            return way + (others == 0 ? 0 : stepsLeft[others * GOODS + good]);
+        private static int stepsBetween(int place, int other) {
+            return Math.abs(place % SIDE - other % SIDE) + Math.abs(place / SIDE - other / SIDE);
         }
 
         int walkedTo(int i) {
@@ -1724,7 +1680,7 @@ public final class GladBasket {
 
         /** How many sets cost just so much and make GLAD just so. */
         int seekSets(Basket basket, int cost, int glad) {
-            loadNowsAndGlads(basket);
+            loadWares(basket);
             int goods = Math.min(GOODS, basket.goods);
             setCount = 0;
             for (int set = 0; set < 1 << goods && setCount < SETS; set++) {
