@@ -129,6 +129,7 @@ public final class ChangesTest {
         due.is(22, "of(0, 2) is not undone", b.of(0, 2), 90);
         due.is(22, "of(1, 2) is", b.of(1, 2), 2);
         due.is(22, "of(2, 2) is", b.of(2, 2), 1);
+        mixed();
         Due.enforce(b, "moves 1");
         Due.orders(b, "pass times 18");
         for (int i = 0; i < 16; i++) {
@@ -136,6 +137,36 @@ public final class ChangesTest {
         }
         due.is(22, "count(13) behind 16 months undone of 18", b.count(13), 2);
         due.is(22, "of(0, 1)", b.of(0, 1), 6);
+    }
+
+    /** More than 16 of all kinds: those that are left are undone each as it was. */
+    private static void mixed() {
+        GladBasket b = basket();
+        Due.enforce(b, "moves good - 1");
+        for (int i = 0; i < 6; i++) {
+            b.lack(i % 3);
+            b.weigh((i + 1) % 3, 10 + i);
+            b.pass();
+            b.find(i % 3);
+        }
+        // Of 24 the first eight are gone: the weights 10 and 11 stay, two months have passed.
+        for (int i = 5; i >= 2; i--) {
+            due.is(22, "undo() of find", b.undo(), 1);
+            due.is(22, "it LACKS", b.of(i % 3, 5), 1);
+            due.is(22, "undo() of pass", b.undo(), 3);
+            due.is(22, "count(13)", b.count(13), i);
+            due.is(22, "of(0, 1)", b.of(0, 1), Math.max(1, 4 - i));
+            due.is(22, "of(2, 1)", b.of(2, 1), Math.min(12, 11 + i));
+            due.is(22, "undo() of weigh", b.undo(), 2);
+            due.is(22, "its WEIGHT", b.of((i + 1) % 3, 2), i == 2 ? 3 : i == 3 ? 10 : i == 4 ? 11 : 12);
+            due.is(22, "undo() of lack", b.undo(), 0);
+            due.is(22, "it does not LACK", b.of(i % 3, 5), 0);
+        }
+        due.is(22, "undo() of what is gone", b.undo(), -3);
+        due.is(22, "count(13)", b.count(13), 2);
+        due.is(22, "of(0, 2)", b.of(0, 2), 3);
+        due.is(22, "of(1, 2)", b.of(1, 2), 10);
+        due.is(22, "of(2, 2)", b.of(2, 2), 11);
     }
 
     private static void nothingAhead() {

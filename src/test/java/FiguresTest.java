@@ -26,6 +26,11 @@ public final class FiguresTest {
     private static void plain() {
         GladBasket b = new GladBasket();
         b.good(7, 11, 4, 0, 0);
+        turned(b, 2, 1, 1);
+        b.good(7, 5, 2, 0, 0);
+        turned(b, 2, 11, 5);
+        b = new GladBasket();
+        b.good(7, 11, 4, 0, 0);
         figure(b, 0, 11, 7);
         b.good(5, 3, 6, 0, 0);
         b.good(12, 1, 0, 0, 0);

@@ -230,6 +230,8 @@ public final class LawTest {
         test("not 2 = 3", 1);
         test("not not 2 = 3", 0);
         test("not not not 2 = 3", 1);
+        test("not (not 2 = 3)", 0);
+        test("not (not 2 = 2)", 1);
         test("not 2 = 3 and 1 = 2", 0);
         test("not (2 = 3 and 1 = 2)", 1);
         test("1 = 1 or 1 = 2 and 1 = 3", 1);
@@ -279,6 +281,10 @@ public final class LawTest {
         due.is(4, "moves", b.asks(1, 0), 1);
         due.is(4, "glads", b.asks(1, 2), 2);
         due.is(4, "counts without", b.asks(1, 1), 42);
+        b = basket();
+        Due.enforce(b, "counts 1;".repeat(11) + "counts now + 3 if good = 1");
+        due.is(4, "the twelfth of 0", b.asks(0, 1), 1);
+        due.is(4, "the twelfth of 1", b.asks(1, 1), 14);
         b = basket();
         Due.enforce(b, "bars if good = 0");
         due.is(4, "bars 0", b.asks(0, 3), 1);

@@ -39,6 +39,10 @@ public final class OrdersTest {
         fault("pass times [1]", 11);
         fault("pass times 2 times 2", 13);
         fault("pass times 2+1", 12);
+        fault("weigh 0 by [[[[[[[[1]]]]]]]]", fine);
+        fault("weigh 0 by [[[[[[[[[1]]]]]]]]]", 19);
+        fault("weigh [[[[[[[[0]]]]]]]] by 1", fine);
+        fault("weigh [[[[[[[[[0]]]]]]]]] by 1", 14);
         fault("pass times 2 if 1=1", fine);
         fault("pass if 1=1 times 2", 12);
         fault("pass if", 7);
@@ -97,6 +101,12 @@ public final class OrdersTest {
         due.is(14, "status()", b.status(), 0);
         due.is(14, "as often as the if is so", Due.orders(b, "pass times 20 if month < 25"), 5);
         due.is(14, "count(13)", b.count(13), 25);
+        due.is(14, "twelve", Due.orders(basket(), "pass;".repeat(11) + "weigh month % 3 by month + 1 times 3 if done > 10"), 14);
+        b.terms(0, 25);
+        due.is(14, "the twelfth", Due.orders(b, "pass;".repeat(11) + "weigh month % 3 by month + 1 times 3 if done > 10"),
+                14);
+        due.is(14, "of(0, 2)", b.of(0, 2), 37);
+        due.is(14, "count(13)", b.count(13), 36);
         Due.enforce(b, "moves 1");
         due.is(14, "by the law", Due.orders(b, "pass times 3"), 3);
         due.is(14, "of(0, 1)", b.of(0, 1), 7);

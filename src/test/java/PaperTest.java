@@ -41,13 +41,21 @@ public final class PaperTest {
         row(b, 10, 7, 1, 0, 0, 1);
         row(b, 17, 10, 0, 0, 0, 2);
         row(b, 99, 45 + 36, 0, 9, 0, 9);
+        for (int i = 0; i < 4; i++) {
+            b.good(1, 9 - i, 0, 9, 0);
+        }
+        row(b, 99, 45 + 12, 0, 0, 0, 9, 0, 0, 0, 2);
+        row(b, 91, 45 + 6 + 2, 1, 0, 0, 9, 0, 0, 0, 1);
+        for (int i = 4; i < 8; i++) {
+            b.lack(i);
+        }
         b.lack(3);
         row(b, 3, 6, 1, 1, 0, 0);
         row(b, 28, -1, -1, -1, -1, -1);
         due.is(26, "glad(100, 0)", b.glad(100, 0), -1);
         due.is(26, "glad(-1, 0)", b.glad(-1, 0), -1);
         due.is(26, "glad(1, -1)", b.glad(1, -1), -1);
-        due.is(26, "glad(1, 5)", b.glad(1, 5), -1);
+        due.is(26, "glad(1, 9)", b.glad(1, 9), -1);
         due.is(26, "glad(MIN, MIN)", b.glad(Integer.MIN_VALUE, Integer.MIN_VALUE), -1);
         due.is(26, "glad(1, MAX)", b.glad(1, Integer.MAX_VALUE), -1);
     }
