@@ -1074,14 +1074,14 @@ public final class GladBasket {
                 return false;
             }
             program.endPiece(FIRST_SUM);
-            if (asOrders && kind == WEIGH && !(readExactly("by") && readSum(0))) {
+            if (asOrders && kind == WEIGH && !(readKeyword("by") && readSum(0))) {
                 return false;
             }
             program.endPiece(SECOND_SUM);
-            if (asOrders && readExactly("times") && !readTimes()) {
+            if (asOrders && readKeyword("times") && !readTimes()) {
                 return false;
             }
-            if (readExactly("if") && !readTest(0)) {
+            if (readKeyword("if") && !readTest(0)) {
                 return false;
             }
             program.endPiece(IF_TEST);
@@ -1089,7 +1089,7 @@ public final class GladBasket {
             return true;
         }
 
-        private boolean readExactly(String word) {
+        private boolean readKeyword(String word) {
             if (tape.wordIn(word) == NONE) {
                 return false;
             }
@@ -1117,7 +1117,7 @@ public final class GladBasket {
 
         private boolean readTest(int depth) {
             boolean fine = readBoth(depth);
-            for (int i = 0; i < BYTES && fine && readExactly("or"); i++) {
+            for (int i = 0; i < BYTES && fine && readKeyword("or"); i++) {
                 int skip = program.emit(DO_OR, 0);
                 fine = readBoth(depth);
                 program.aimHere(skip);
@@ -1127,7 +1127,7 @@ public final class GladBasket {
 
         private boolean readBoth(int depth) {
             boolean fine = readPlain(depth);
-            for (int i = 0; i < BYTES && fine && readExactly("and"); i++) {
+            for (int i = 0; i < BYTES && fine && readKeyword("and"); i++) {
                 int skip = program.emit(DO_AND, 0);
                 fine = readPlain(depth);
                 program.aimHere(skip);
@@ -1138,7 +1138,7 @@ public final class GladBasket {
         /** A row of "not" is read in a loop: no bound is told for it, so it must not go deeper. */
         private boolean readPlain(int depth) {
             boolean not = false;
-            for (int i = 0; i < BYTES && readExactly("not"); i++) {
+            for (int i = 0; i < BYTES && readKeyword("not"); i++) {
                 not = !not;
             }
             boolean fine;

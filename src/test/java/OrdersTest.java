@@ -101,10 +101,8 @@ public final class OrdersTest {
         due.is(14, "status()", b.status(), 0);
         due.is(14, "as often as the if is so", Due.orders(b, "pass times 20 if month < 25"), 5);
         due.is(14, "count(13)", b.count(13), 25);
-        due.is(14, "twelve", Due.orders(basket(), "pass;".repeat(11) + "weigh month % 3 by month + 1 times 3 if done > 10"), 14);
-        b.terms(0, 25);
-        due.is(14, "the twelfth", Due.orders(b, "pass;".repeat(11) + "weigh month % 3 by month + 1 times 3 if done > 10"),
-                14);
+        String twelve = "pass;".repeat(11) + "weigh month % 3 by month + 1 times 3 if done > 10";
+        due.is(14, "twelve", Due.orders(b, twelve), 14);
         due.is(14, "of(0, 2)", b.of(0, 2), 37);
         due.is(14, "count(13)", b.count(13), 36);
         Due.enforce(b, "moves 1");
@@ -148,8 +146,8 @@ public final class OrdersTest {
         due.is(14, "the figure is that of now", Due.orders(b, "weigh 0 by 0;weigh 1 by 0;weigh 2 by figure - 10"), 3);
         due.is(14, "of(2, 2)", b.of(2, 2), 40);
         b = basket();
-        due.is(14, "latest is WEIGHT as it was", Due.orders(b, "weigh 0 by 50;weigh 1 by latest;weigh 2 by latest + 10"),
-                3);
+        String chain = "weigh 0 by 50;weigh 1 by latest;weigh 2 by latest + 10";
+        due.is(14, "latest is WEIGHT as it was", Due.orders(b, chain), 3);
         due.is(14, "of(1, 2)", b.of(1, 2), 3);
         due.is(14, "of(2, 2)", b.of(2, 2), 12);
         due.is(14, "latest is of this TEXT", Due.orders(b, "weigh 1 by latest + 1"), 1);

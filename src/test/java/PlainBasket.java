@@ -1,10 +1,11 @@
 import java.math.BigInteger;
 import java.util.ArrayDeque;
 import java.util.ArrayList;
-import java.util.Arrays;
 import java.util.Deque;
 import java.util.List;
 import java.util.function.ToLongFunction;
+import java.util.regex.Matcher;
+import java.util.regex.Pattern;
 
 /**
  * The document once more, as slowly and plainly as can be: what AgreementTest compares the class with. It tries all
@@ -29,7 +30,7 @@ final class PlainBasket {
         }
     }
 
-    private static final class Good implements Cloneable {
+    private static final class Good {
         int base, now, weight, glad, place, standIn = -1;
         boolean lacks;
 
@@ -216,8 +217,7 @@ final class PlainBasket {
             for (int b : tape) {
                 all.append((char) b);
             }
-            java.util.regex.Matcher m = java.util.regex.Pattern.compile("[a-z]+|[0-9]+|[^ ]", java.util.regex.Pattern.DOTALL)
-                    .matcher(all);
+            Matcher m = Pattern.compile("[a-z]+|[0-9]+|[^ ]", Pattern.DOTALL).matcher(all);
             while (m.find()) {
                 tokens.add(m.group());
                 places.add(m.start());
@@ -1037,10 +1037,5 @@ final class PlainBasket {
 
     public int status() {
         return status;
-    }
-
-    /** For a look at one when two do not agree. */
-    String look() {
-        return Arrays.toString(tape.toArray());
     }
 }

@@ -6,8 +6,9 @@ import java.util.function.IntConsumer;
 public final class RoomTest {
     private static final ThreadMXBean THREADS = (ThreadMXBean) ManagementFactory.getThreadMXBean();
     // A dear law: as many PARTS and CLAUSES as can be.
-    private static final String LAW = "moves now+1*2-3%4;counts weight*2+mood-[glad+1]*2;glads glad+1 if now>3 and not base<2;"
-            + "bars if place=7 or place=9;counts 1+1 if good=1;moves 1;moves 2 if month>3;moves 3 if month<9 or mood=3;"
+    private static final String LAW = "moves now+1*2-3%4;counts weight*2+mood-[glad+1]*2;"
+            + "glads glad+1 if now>3 and not base<2;bars if place=7 or place=9;counts 1+1 if good=1;"
+            + "moves 1;moves 2 if month>3;moves 3 if month<9 or mood=3;"
             + "glads 4 if lacks=1;glads 3;counts [[weight]]+3 if good>2;moves 0-1 if good=3 and now>base";
     private static final String ORDERS = "weigh 0 by figure%90 times 20;weigh 1 by figure%80 times 20;pass times 20;"
             + "lack 2 if lacking=0;find 2 times 20 if lacking=1;pass times 20 if figure>0;weigh 2 by now 0+weight 1%9";

@@ -15,8 +15,8 @@ import java.util.regex.Pattern;
 /** What of LANGUAGE.md can be seen from outside: the face, the classes inside, words that must not stand. */
 public final class RulesTest {
     private static final Due due = new Due("RulesTest");
-    private static final String FACE = "good5 of2 asks2 stand2 person0 own3 terms2 feed5 end1 row0 commas0 law0 orders0 "
-            + "fault0 stopped0 force1 lack1 find1 weigh2 pass0 undo0 figure2 turned2 pension0 glad2 round2 spent3 ask3 "
+    private static final String FACE = "good5 of2 asks2 stand2 person0 own3 terms2 feed5 end1 row0 commas0 law0 "
+            + "orders0 fault0 stopped0 force1 lack1 find1 weigh2 pass0 undo0 figure2 turned2 pension0 glad2 round2 spent3 ask3 "
             + "fair2 hear1 forget0 trend1 does1 compare1 gets2 years2 drawn2 image1 back1 count1 status0";
 
     public static void main(String[] args) throws IOException {
@@ -87,10 +87,11 @@ public final class RulesTest {
 
     private static void source() throws IOException {
         String text = Files.readString(Path.of("src/main/java/GladBasket.java"));
-        String bare = text.replaceAll("(?s)/\\*.*?\\*/", "").replaceAll("//[^\n]*", "").replaceAll("\"[^\"\n]*\"", "\"\"");
-        for (String word : new String[] {"throw", "throws", "try", "catch", "synchronized", "assert", "protected", "package",
-            "native", "volatile", "transient", "Exact", "System.out", "Thread", "Object", "hashCode", "toString", "equals",
-            "double", "float", "var", "yield"}) {
+        String bare = text.replaceAll("(?s)/\\*.*?\\*/", "").replaceAll("//[^\n]*", "")
+                .replaceAll("\"[^\"\n]*\"", "\"\"");
+        String words = "throw throws try catch synchronized assert protected package native volatile transient "
+                + "\\w*Exact Thread Object hashCode toString equals double float var yield System.out";
+        for (String word : words.split(" ")) {
             due.holds("no " + word, !Pattern.compile("\\b" + word + "\\b").matcher(bare).find());
         }
         due.holds("no lambda, no arrow", !bare.contains("->"));
@@ -106,7 +107,8 @@ public final class RulesTest {
         for (String each : text.split("\n")) {
             line++;
             due.holds("line " + line + " is not too long", each.length() <= 120);
-            if (each.matches("\\s+(public|private|[A-Za-z\\[\\]]+) .*\\) \\{") && !each.matches("\\s+(if|for|while|switch|\\}).*")) {
+            if (each.matches("\\s+(public|private|[A-Za-z\\[\\]]+) .*\\) \\{")
+                    && !each.matches("\\s+(if|for|while|switch|\\}).*")) {
                 within = true;
                 length = 0;
             }
