@@ -121,6 +121,7 @@ public final class AgreementTest {
         for (int i = 0; i < 3; i++) {
             type(text(false));
             same("law");
+            same("person");
         }
         same("force", random.nextInt(3));
         for (int i = 0; i < 300 && wrong == 0; i++) {
@@ -138,6 +139,10 @@ public final class AgreementTest {
                 type(row());
                 same("row");
                 same("commas");
+            } else if (way == 4) {
+                sets();
+            } else if (way == 5 && random.nextInt(8) == 0) {
+                changes();
             } else {
                 drawCall(NAMES.get(random.nextInt(NAMES.size())));
             }
@@ -149,6 +154,38 @@ public final class AgreementTest {
             for (int what = 0; what < 7; what++) {
                 same("of", good, what);
             }
+        }
+    }
+
+    /** Sets that are there: by what one of them costs and how GLAD it makes. */
+    private void sets() throws Exception {
+        int set = random.nextInt(256);
+        int cost = 0;
+        int glad = 0;
+        for (int good = 0; good < plain.count(0); good++) {
+            if ((set >> good & 1) == 1 && plain.of(good, 5) == 0) {
+                cost += plain.of(good, 1);
+                glad += plain.asks(good, 2);
+            }
+        }
+        same("spent", cost, glad, -1);
+        same("spent", cost, glad, 0);
+        same("spent", cost, glad, 1);
+        same("ask", cost, glad, 0);
+        same("ask", cost, glad, 1);
+    }
+
+    /** More changes than are kept, and all of them undone that can be. */
+    private void changes() throws Exception {
+        String[] kinds = {"lack", "find", "weigh", "weigh", "pass"};
+        int often = random.nextInt(40);
+        for (int i = 0; i < often; i++) {
+            drawCall(kinds[random.nextInt(5)]);
+        }
+        for (int i = random.nextInt(18); i >= 0; i--) {
+            same("undo");
+            same("count", 5);
+            drawCall("of");
         }
     }
 
