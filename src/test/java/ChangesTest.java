@@ -130,6 +130,7 @@ public final class ChangesTest {
         due.is(22, "of(1, 2) is", b.of(1, 2), 2);
         due.is(22, "of(2, 2) is", b.of(2, 2), 1);
         mixed();
+        shifted();
         Due.enforce(b, "moves 1");
         Due.orders(b, "pass times 18");
         for (int i = 0; i < 16; i++) {
@@ -167,6 +168,31 @@ public final class ChangesTest {
         due.is(22, "of(0, 2)", b.of(0, 2), 3);
         due.is(22, "of(1, 2)", b.of(1, 2), 10);
         due.is(22, "of(2, 2)", b.of(2, 2), 11);
+    }
+
+    /** The oldest are gone in the midst of others of other kinds. */
+    private static void shifted() {
+        GladBasket b = basket();
+        Due.enforce(b, "moves 1");
+        b.lack(0);
+        for (int i = 0; i < 12; i++) {
+            b.weigh(1, i);
+        }
+        b.lack(1);
+        b.pass();
+        b.pass();
+        b.find(0);
+        b.find(1);
+        int[] kinds = {1, 1, 3, 3, 0, 2, 2, 2, 2, 2, 2, 2, 2, 2, 2, 2, -3};
+        int[] nows = {6, 6, 5, 4, 4, 4, 4, 4, 4, 4, 4, 4, 4, 4, 4, 4, 4};
+        int[] weights = {11, 11, 11, 11, 11, 10, 9, 8, 7, 6, 5, 4, 3, 2, 1, 0, 0};
+        for (int i = 0; i < kinds.length; i++) {
+            due.is(22, "undo() of those that are left", b.undo(), kinds[i]);
+            due.is(22, "of(0, 1)", b.of(0, 1), nows[i]);
+            due.is(22, "of(1, 2)", b.of(1, 2), weights[i]);
+        }
+        due.is(22, "of(0, 5) is not undone", b.of(0, 5), 1);
+        due.is(22, "of(1, 5)", b.of(1, 5), 0);
     }
 
     private static void nothingAhead() {

@@ -107,9 +107,15 @@ public final class GoodsTest {
         due.is(6, "a sixth", b.person(), -5);
         due.is(6, "count(2)", b.count(2), 5);
         due.is(7, "own(4, 0, 3)", b.own(4, 0, 3), 0);
+        due.is(7, "own(4, 0, 2)", b.own(4, 0, 2), 3);
         due.is(7, "own(0, 0, 5) is its own", b.own(0, 0, 5), 4);
         b.good(1, 1, 1, 1, 1);
         due.is(7, "own(0, 1, 5) of a later GOOD", b.own(0, 1, 5), 0);
+        for (int good = 2; good < 8; good++) {
+            b.good(1, 1, 1, 1, 1);
+            due.is(7, "own(4, good, 8)", b.own(4, good, 8), 0);
+            due.is(7, "own(4, good, 1)", b.own(4, good, 1), 8);
+        }
     }
 
     private static void terms() {

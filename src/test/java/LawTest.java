@@ -38,6 +38,12 @@ public final class LawTest {
         fault("bars bars", 5);
         fault("bars 1", 5);
         fault("barsx", 0);
+        fault("barsa", 0);
+        fault("barsz", 0);
+        fault("bars`", 4);
+        fault("bars{", 4);
+        fault("bars/", 4);
+        fault("bars:", 4);
         fault("Bars", 0);
         fault("moves1", fine);
         fault("moves 1bars", 7);

@@ -201,7 +201,10 @@ public final class OrdersTest {
         b.weigh(0, 9);
         b.pass();
         cannot(b, "pass times 20;find 0", 1);
+        due.is(14, "of(0, 1) behind a month", b.of(0, 1), 5);
         due.is(14, "the latest is still undone first", b.undo(), 3);
+        due.is(14, "of(0, 1) as it was", b.of(0, 1), 4);
+        due.is(14, "of(1, 1) as it was", b.of(1, 1), 6);
         due.is(14, "then the one ahead", b.undo(), 2);
         due.is(14, "of(0, 2)", b.of(0, 2), 3);
         b.terms(0, 998);

@@ -89,8 +89,27 @@ public final class YearsTest {
         due.is(37, "years(0, 1)", b.years(0, 1), 600);
         due.is(38, "drawn(0, 0)", b.drawn(0, 0), 6);
         due.is(37, "years(0, 60)", b.years(0, 60), 1200);
+        bounds(12, "moves 0 - 2", 2);
+        bounds(1, "moves 2", 3);
         Due.enforce(b, "moves 0 - 9");
         due.is(37, "the greatest is that behind a month", b.years(0, 1), 100);
+    }
+
+    /** At a bound of prices: a DRAW by which it would be beyond that leaves it there, then the MONTH passes. */
+    private static void bounds(int now, String law, int drawnAt) {
+        GladBasket b = new GladBasket();
+        b.good(1, now, 1, 0, 0);
+        Due.enforce(b, law);
+        int met = 0;
+        for (long seed = 0; seed < 20; seed++) {
+            long s = ((seed * 1103 + 12345) % 1000003 * 1103 + 12345) % 1000003;
+            if (s % 4 == drawnAt) {
+                met++;
+                b.years((int) seed, 1);
+                due.is(37, "NOW at a bound", b.drawn(0, 0), now == 12 ? 10 : 3);
+            }
+        }
+        due.holds("a DRAW at the bound was met", met > 0);
     }
 
     private static void theEnd() {
