@@ -197,6 +197,50 @@ public final class EdgesChangesTest {
             edge.is("undone of " + many, undone, Math.min(16, many));
             edge.is("WEIGHT then", b.of(0, 2), many <= 16 ? 3 : many - 16 + 10);
         }
+        for (int many = 14; many <= 40; many++) {
+            ofAllKinds(many);
+        }
+    }
+
+    /** Of more than 16 changes of all kinds, each that is kept is undone to what it was then. */
+    private static void ofAllKinds(int many) {
+        GladBasket b = basket();
+        Due.enforce(b, "moves 1 if good=month%3;moves 0-1 if good=[month+1]%3");
+        String[] seen = new String[many + 1];
+        seen[0] = state(b);
+        for (int i = 1; i <= many; i++) {
+            changeOnce(b, i - 1);
+            seen[i] = state(b);
+        }
+        int left = Math.min(16, many);
+        for (int i = many - 1; i >= many - left; i--) {
+            edge.is("undo() of " + i + " of " + many, b.undo(), kindOf(i));
+            edge.holds("as it was ahead of " + i + " of " + many + ": " + state(b), state(b).equals(seen[i]));
+        }
+        edge.is("undo() of one more", b.undo(), -3);
+    }
+
+    /** By fives: to LACK, to WEIGH, a MONTH, to FIND, a MONTH, each time of the next GOOD. */
+    private static int kindOf(int i) {
+        return new int[] {0, 2, 3, 1, 3}[i % 5];
+    }
+
+    private static void changeOnce(GladBasket b, int i) {
+        int good = i / 5 % 3;
+        switch (kindOf(i)) {
+            case 0: b.lack(good); break;
+            case 1: b.find(good); break;
+            case 2: b.weigh(2 - good, 20 + i); break;
+            default: b.pass(); break;
+        }
+    }
+
+    private static String state(GladBasket b) {
+        StringBuilder s = new StringBuilder().append(b.count(13));
+        for (int good = 0; good < 3; good++) {
+            s.append(' ').append(b.of(good, 1)).append(' ').append(b.of(good, 2)).append(' ').append(b.of(good, 5));
+        }
+        return s.toString();
     }
 
     private static void leavesToUndo(String what, int left, Edge.Call call) {
@@ -296,7 +340,9 @@ public final class EdgesChangesTest {
         b.person();
         b.own(0, 0, 6);
         b.own(1, 4, 6);
+        b.forget();
         b.hear(500);
+        b.hear(3);
         b.terms(0, 500);
         b.terms(1, 5);
         b.terms(2, 2);

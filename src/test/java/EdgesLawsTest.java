@@ -149,6 +149,23 @@ public final class EdgesLawsTest {
         fault("bars if 1=2 not 3=4", 12);
         fault("bars if 1 and 2=2", 10);
         fault("bars if if 1=1", 8);
+        holds("1=1", true);
+        holds("not 1=1", false);
+        holds("not not 1=1", true);
+        holds("not (not 1=1)", true);
+        holds("not (not (not 1=1))", false);
+        holds("not 1=2 and not (not 1=1)", true);
+        holds("not 1=1 or 1=1", true);
+        holds("not (1=1 or 1=1)", false);
+        holds("not 1=2 and 1=2", false);
+        holds("1=1 or 1=1 and 1=2", true);
+        holds("(1=1 or 1=1) and 1=2", false);
+        holds("1=2 and 1=2 or 1=1", true);
+        holds("1=2 and (1=2 or 1=1)", false);
+        holds("1<1", false);
+        holds("1<2", true);
+        holds("1>1", false);
+        holds("2>1", true);
     }
 
     private static void grammarOfSums() {
@@ -157,6 +174,14 @@ public final class EdgesLawsTest {
         fine("moves 1+2-3*4/5%6");
         fine("moves [1+2]*[3-4]");
         fine("moves [[good]]");
+        counts("2+3*4", 14);
+        counts("[2+3]*4", 20);
+        counts("20-5-4", 11);
+        counts("20-[5-4]", 19);
+        counts("60/6/2", 5);
+        counts("60/[6/2]", 20);
+        counts("60%7*3", 12);
+        counts("60%[7*3]", 18);
         fault("moves", 5);
         fault("moves +1", 6);
         fault("moves -1", 6);
@@ -242,7 +267,7 @@ public final class EdgesLawsTest {
             fault(open + "[1]" + "]".repeat(sums) + ")".repeat(tests), open.length());
         }
         fine("bars if " + "(".repeat(7) + "(1=1) and (2=2)" + ")".repeat(7));
-        fine("bars if not (".repeat(1) + "not (".repeat(7) + "1=1" + ")".repeat(8));
+        fine("bars if " + "not (".repeat(8) + "1=1" + ")".repeat(8));
         fault("bars if " + "(".repeat(7) + "(1=1) and ((2=2))" + ")".repeat(7), 26);
         fine("moves [1]" + "+[1]".repeat(20));
         fine("moves " + "[".repeat(8) + "1" + "]".repeat(8) + "+" + "[".repeat(8) + "1" + "]".repeat(8) + ";moves "

@@ -181,6 +181,9 @@ public final class EdgesOrdersTest {
         fault("pass;".repeat(12), 60);
         runs("lack " + "[".repeat(8) + "0" + "]".repeat(8), 1);
         fault("lack " + "[".repeat(9) + "0" + "]".repeat(9), 13);
+        runs("weigh 0 by " + "[".repeat(8) + "0" + "]".repeat(8), 1);
+        fault("weigh 0 by " + "[".repeat(9) + "0" + "]".repeat(9), 19);
+        runs("weigh " + "[".repeat(8) + "0" + "]".repeat(8) + " by " + "[".repeat(8) + "0" + "]".repeat(8), 1);
         runs("pass if " + "(".repeat(8) + "1=1" + ")".repeat(8), 1);
         fault("pass if " + "(".repeat(9) + "1=1" + ")".repeat(9), 16);
         runs("weigh 0 by 1000/1000", 1);
