@@ -340,6 +340,11 @@ public final class EdgesChangesTest {
         b.person();
         b.own(0, 0, 6);
         b.own(1, 4, 6);
+        for (int person = 0; person < 5; person++) {
+            for (int good = 0; good < 8; good += 7 - person) {
+                b.own(person, good, 8 - person);
+            }
+        }
         b.forget();
         b.hear(500);
         b.hear(3);

@@ -109,6 +109,14 @@ public final class EdgesLawsTest {
         fault(";bars", 0);
         fault("bars;", 5);
         fault("bars;;bars", 5);
+        asked("moves 1;".repeat(11) + "moves 5", 0, 5);
+        asked("moves 1;".repeat(11) + "moves 5 if 1=1", 0, 5);
+        asked("moves 1;".repeat(11) + "moves 5 if 1=2", 0, 1);
+        asked("moves 5;" + "moves 1 if 1=2;".repeat(10) + "moves 1 if 1=2", 0, 5);
+        GladBasket b = new GladBasket();
+        for (int law = 0; law < 6; law++) {
+            edge.is("twelve in each TEXT: " + law, Due.law(b, "bars;".repeat(11) + "bars"), law);
+        }
     }
 
     private static void grammarOfTests() {
@@ -166,6 +174,24 @@ public final class EdgesLawsTest {
         holds("1<2", true);
         holds("1>1", false);
         holds("2>1", true);
+        for (String no : new String[] {"2<1", "1<1", "1>2", "1>1", "1=2", "2=1"}) {
+            holds(no, false);
+            holds("not " + no, true);
+            holds("not not " + no, false);
+            holds("not (" + no + " and 1=1)", true);
+            holds("not (1=1 and " + no + ")", true);
+            holds(no + " or 1=1", true);
+            holds("not (" + no + " or " + no + ")", true);
+        }
+        for (String yes : new String[] {"1<2", "2>1", "2=2"}) {
+            holds(yes, true);
+            holds("not " + yes, false);
+            holds("not not " + yes, true);
+            holds("not (" + yes + " or 1=2)", false);
+            holds("not (1=2 or " + yes + ")", false);
+            holds(yes + " and 1=2", false);
+            holds("not (" + yes + " and " + yes + ")", false);
+        }
     }
 
     private static void grammarOfSums() {
@@ -252,6 +278,13 @@ public final class EdgesLawsTest {
         String both = "counts [1]" + "+[now]".repeat(24) + ";bars if 1=2" + " or 1=2".repeat(11) + ";moves 1";
         fine(both);
         fault(both + ";moves 1", both.length() + 7);
+        GladBasket b = new GladBasket();
+        for (int law = 0; law < 6; law++) {
+            edge.is("fifty in each TEXT: " + law, Due.law(b, fifty), law);
+            edge.is("and fifty of ORDERS", Due.orders(b, "pass if 1=1" + " and 1=1".repeat(24)), 1);
+            edge.is("not fifty-two of ORDERS", Due.orders(b, "pass if 1=1" + " and 1=1".repeat(25)), -6);
+            edge.is("its place", b.fault(), 208);
+        }
     }
 
     private static void eightBrackets() {
@@ -273,6 +306,9 @@ public final class EdgesLawsTest {
         fine("moves " + "[".repeat(8) + "1" + "]".repeat(8) + "+" + "[".repeat(8) + "1" + "]".repeat(8) + ";moves "
                 + "[".repeat(8) + "1" + "]".repeat(8));
         fault("moves 1+" + "[".repeat(8) + "1" + "]".repeat(7) + "+[" + "[".repeat(8), 32);
+        GladBasket b = new GladBasket();
+        edge.is("a FAULT within eight", Due.law(b, "moves " + "[".repeat(8)), -6);
+        edge.is("eight in the next TEXT", Due.law(b, "moves " + "[".repeat(8) + "1" + "]".repeat(8)), 0);
     }
 
     private static void faultAtTheEnd() {
@@ -384,6 +420,10 @@ public final class EdgesLawsTest {
         holds("not (1=1 or 1/0=1) or 2=2", true);
         holds("(1=1 or 1/0=1) and (2=3 or 3=3)", true);
         holds("1=1 or (1/0=1 and 1/0=1) or 1/0=1", true);
+        holds("not (2<1 and 1/0=1)", true);
+        holds("not (1>2 and 1/0=1)", true);
+        holds("1<2 or 1/0=1", true);
+        holds("2>1 or 1/0=1", true);
     }
 
     // ---- What LAWS tell

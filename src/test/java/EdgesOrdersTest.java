@@ -177,6 +177,10 @@ public final class EdgesOrdersTest {
     private static void limitsOfBothLanguages() {
         edge.says("Of both languages: CLAUSE {\";\" CLAUSE}, 12 at most (FAULT at the 13th's first TOKEN).");
         runs("pass;".repeat(11) + "pass", 12);
+        runs("pass;".repeat(11) + "pass if 1=1", 12);
+        runs("pass;".repeat(11) + "pass if 1=2", 11);
+        runs("pass;".repeat(11) + "pass times 3 if month<13", 13);
+        runs("pass if 1=2;".repeat(11) + "pass", 1);
         fault("pass;".repeat(12) + " pass", 61);
         fault("pass;".repeat(12), 60);
         runs("lack " + "[".repeat(8) + "0" + "]".repeat(8), 1);
@@ -272,6 +276,13 @@ public final class EdgesOrdersTest {
         edge.is("of(0, 2)", b.of(0, 2), 50);
         edge.granted("figure", b, x -> ordersOf(x, "find 0;weigh 1 by figure-150"), 2);
         edge.is("of(1, 2)", b.of(1, 2), 50);
+        b = basket();
+        // 12 + 12 + 3 by 6 + 6 + 6
+        edge.granted("figure ahead of other words", b, x -> ordersOf(x, "weigh 2 by figure-100+month+done*0+now 0*0"), 1);
+        edge.is("of(2, 2)", b.of(2, 2), 50);
+        // 24 + 3 * 50 by 12 + 6 * 50 are 55 of a hundred, 24 + 3 * 5 by 12 + 6 * 5 are 92
+        edge.granted("figure as it is each time", b, x -> ordersOf(x, "weigh 2 by figure%10 times 2 if month=0"), 2);
+        edge.is("of(2, 2)", b.of(2, 2), 2);
         GladBasket empty = new GladBasket();
         edge.granted("without any GOOD", empty, x -> ordersOf(x, "pass if now 0=0-1 and weight 0=0-1 and figure=100"), 1);
     }
@@ -349,6 +360,34 @@ public final class EdgesOrdersTest {
             edge.is("undo()", b.undo(), kind);
         }
         edge.is("of(0, 1)", b.of(0, 1), 4);
+        pricesToUndo();
+    }
+
+    /** ORDERS that can't be leave all sixteen changes to undo, with the prices ahead of each. */
+    private static void pricesToUndo() {
+        for (String text : new String[] {"pass times 20;lack 9", "pass;lack 9", "weigh 0 by 1 times 20;lack 9"}) {
+            GladBasket b = new GladBasket();
+            for (int good = 0; good < 8; good++) {
+                b.good(1, 1 + good, 1, 1, 1);
+            }
+            Due.enforce(b, "moves 1;moves 0-11 if now>11");
+            int[][] seen = new int[20][8];
+            for (int month = 0; month < 20; month++) {
+                for (int good = 0; good < 8; good++) {
+                    seen[month][good] = b.of(good, 1);
+                }
+                b.pass();
+            }
+            edge.is(text, ordersOf(b, text), -3);
+            for (int month = 19; month >= 4; month--) {
+                edge.is("undo() behind " + text, b.undo(), 3);
+                edge.is("count(13)", b.count(13), month);
+                for (int good = 0; good < 8; good++) {
+                    edge.is("of(" + good + ", 1) in MONTH " + month, b.of(good, 1), seen[month][good]);
+                }
+            }
+            edge.is("undo() of a 17th", b.undo(), -3);
+        }
     }
 
     private static void sixteenAreKept() {

@@ -1,4 +1,5 @@
 import java.io.IOException;
+import java.util.Arrays;
 
 /** Edges of what is found on paper (Terms III), and of promises 26 to 30, 33, 36. */
 public final class EdgesPaperTest {
@@ -13,9 +14,11 @@ public final class EdgesPaperTest {
         ofEachUpToNine();
         notLackingNotBarred();
         leastCost();
+        allAmounts();
         glad();
         through();
         firstRound();
+        allRounds();
         round();
         justSo();
         spent();
@@ -26,6 +29,8 @@ public final class EdgesPaperTest {
         twoAtLeast();
         gets();
         cut();
+        nothingIsLeft();
+        fewerGoods();
         edge.finish();
     }
 
@@ -119,6 +124,36 @@ public final class EdgesPaperTest {
         cheapest(wares(4, 4, 5, 9), 14, 10, 0, 2);
     }
 
+    /** Every n upwards and downwards of the same object, against all rows there are. */
+    private static void allAmounts() {
+        int[][] wares = {{4, 4, 5, 9, 1, 1}, {12, 9, 7, 5, 3, 2}, {2, 1, 2, 1, 4, 2}, {3, 8, 9, 0, 5, 7}, {6, 9, 6, 9, 2, 3}};
+        for (int[] each : wares) {
+            GladBasket b = wares(each);
+            for (int i = 0; i < 200; i++) {
+                int n = i < 100 ? 99 - i : i - 100;
+                int[] row = firstRow(each, n);
+                edge.is("glad(" + n + ", 0)", b.glad(n, 0), row == null ? NONE : costOf(each, row));
+                edge.is("glad(" + n + ", " + (1 + n % 3) + ")", b.glad(n, 1 + n % 3), row == null ? NONE : row[n % 3]);
+            }
+        }
+    }
+
+    private static int[] firstRow(int[] wares, int n) {
+        int[] best = null;
+        for (int i = 0; i < 1000; i++) {
+            int[] row = {i / 100, i / 10 % 10, i % 10};
+            int glad = row[0] * wares[1] + row[1] * wares[3] + row[2] * wares[5];
+            if (glad >= n && (best == null || costOf(wares, row) < costOf(wares, best))) {
+                best = row;
+            }
+        }
+        return best;
+    }
+
+    private static int costOf(int[] wares, int[] row) {
+        return row[0] * wares[0] + row[1] * wares[2] + row[2] * wares[4];
+    }
+
     private static void glad() {
         edge.promises(26, "As GLAD by n 0 .. 99: what it costs (what 0), how many of GOOD g (1 + g). NONE (it can't be).");
         for (int n : new int[] {-1, 100, MIN, MAX}) {
@@ -180,6 +215,43 @@ public final class EdgesPaperTest {
         way(places(24, 4, 0, 20), 12, 16, 0, 1, 2, 3);
         way(places(0, 0, 0, 0, 0, 0, 0, 0), 0, 0, 0, 1, 2, 3, 4, 5, 6, 7);
         way(places(7, 6, 5, 4, 3, 2, 1, 0), 0, 8, 2, 7, 6, 1, 0, 5, 4, 3);
+    }
+
+    /** From every PLACE, against all rows there are. */
+    private static void allRounds() {
+        int[][] places = {{3, 21, 9, 14}, {24, 0, 12, 7}, {20, 4, 22, 2, 10}, {1, 5, 23, 19, 12}, {8, 8, 16, 0}};
+        for (int[] each : places) {
+            for (int from = 0; from < 25; from++) {
+                int[] row = firstWay(each, from, new int[0], null);
+                way(places(each), from, stepsOf(each, from, row), row);
+            }
+        }
+    }
+
+    private static int[] firstWay(int[] places, int from, int[] begun, int[] best) {
+        if (begun.length == places.length) {
+            return best == null || stepsOf(places, from, begun) < stepsOf(places, from, best) ? begun : best;
+        }
+        int[] found = best;
+        for (int good = 0; good < places.length; good++) {
+            int next = good;
+            if (Arrays.stream(begun).noneMatch(g -> g == next)) {
+                int[] longer = Arrays.copyOf(begun, begun.length + 1);
+                longer[begun.length] = good;
+                found = firstWay(places, from, longer, found);
+            }
+        }
+        return found;
+    }
+
+    private static int stepsOf(int[] places, int from, int[] row) {
+        int steps = 0;
+        int here = from;
+        for (int good : row) {
+            steps += Math.abs(here % 5 - places[good] % 5) + Math.abs(here / 5 - places[good] / 5);
+            here = places[good];
+        }
+        return steps;
     }
 
     private static void round() {
@@ -290,6 +362,12 @@ public final class EdgesPaperTest {
         lacking.lack(0);
         // {1} alone: 0 and 1 leave one
         asked(lacking, 1, 1, 0, 1);
+        GladBasket all = wares(1, 1, 1, 1, 1, 1, 1, 1);
+        asked(all, 2, 2, 0, 3);
+        asked(all, 4, 4, 0, 1);
+        asked(all, 0, 0, 0, 1);
+        asked(all, 1, 1, 0, 3);
+        asked(all, 3, 3, 0, 3);
     }
 
     private static void ask() {
@@ -459,6 +537,66 @@ public final class EdgesPaperTest {
                 edge.is("gets of 11 in " + n + " months", b.gets(5, n), at);
                 at += left * rises / 10;
                 left = left * (10 - rises) / 10;
+            }
+        }
+    }
+
+    // ---- One call after another
+
+    private static final int CALLS = 60;
+
+    private static long call(GladBasket b, int i) {
+        switch (i % 12) {
+            case 0: return b.glad(i * 37 % 100, 0);
+            case 1: return b.glad(i * 37 % 100, i % 9);
+            case 2: return b.round(i % 25, NONE);
+            case 3: return b.round(i % 25, i % 8);
+            case 4: return b.spent(i % 20, i % 12, NONE);
+            case 5: return b.spent(i % 20, i % 12, i % 2);
+            case 6: return b.ask(i % 20, i % 12, 0);
+            case 7: return b.ask(i % 20, i % 12, 1);
+            case 8: return b.trend(i % 4);
+            case 9: return b.gets(i % 8, i);
+            case 10: return b.figure(i % 4, i % 2);
+            default: return b.turned(i % 4, i % 2);
+        }
+    }
+
+    /** What one answers is what a new object answers, whatever was asked ahead of it. */
+    private static void nothingIsLeft() {
+        edge.says("(On paper:)");
+        for (Edge.Scene scene : Edge.SCENES) {
+            for (int step : new int[] {1, 7, 11, 13}) {
+                GladBasket b = Edge.made(scene);
+                for (int i = 0; i < CALLS; i++) {
+                    int at = i * step % CALLS;
+                    edge.is("call " + at + " behind others", call(b, at), call(Edge.made(scene), at));
+                }
+            }
+        }
+    }
+
+    /** Behind back() to fewer GOODS nothing is found of those that are gone. */
+    private static void fewerGoods() {
+        edge.says("BACK to one all that it keeps is as it was then (IMAGES stay)");
+        for (int left = 0; left < 4; left++) {
+            int kept = left;
+            Edge.Scene few = x -> {
+                for (int good = 0; good < kept; good++) {
+                    x.good(good + 2, 6 - good, good + 1, 2 * good + 1, 7 * good);
+                }
+            };
+            GladBasket b = Edge.made(few);
+            b.image(0);
+            for (int good = kept; good < 8; good++) {
+                b.good(1, 1, 9, 9, 12);
+            }
+            for (int i = 0; i < CALLS; i++) {
+                call(b, i);
+            }
+            b.back(0);
+            for (int i = 0; i < CALLS; i++) {
+                edge.is("call " + i + " of " + kept + " GOODS", call(b, i), call(Edge.made(few), i));
             }
         }
     }
