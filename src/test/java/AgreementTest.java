@@ -8,8 +8,14 @@ import java.util.List;
 import java.util.Map;
 import java.util.Random;
 
-/** All promises: long runs of calls by draws, on the class and on PlainBasket, whose answers must agree. */
+/**
+ * All promises: long runs of calls by draws, on the class and on PlainBasket, whose answers must agree. A run has as
+ * many calls as the document promises answers for.
+ */
 public final class AgreementTest {
+    private static final int PROMISED = 512;
+    // What is looked at in the end: 16 counts, and 7 of each of 8 GOODS.
+    private static final int IN_THE_END = 16 + 7 * 8;
     private static final int[] NASTY = {-1, -2, 0, 1, 2, 7, 8, 9, 10, 12, 13, 24, 25, 99, 100, 400, 401, 999, 1000,
         1000000, 1000001, Integer.MAX_VALUE, Integer.MIN_VALUE, -100000, 255, 256};
     private static final Map<String, int[][]> RANGES = new HashMap<>();
@@ -22,6 +28,7 @@ public final class AgreementTest {
     private final PlainBasket plain = new PlainBasket();
     private final StringBuilder story = new StringBuilder();
     private int calls = 0;
+    private int most = PROMISED - IN_THE_END;
     private int wrong = 0;
 
     private AgreementTest(long seed) {
@@ -30,7 +37,7 @@ public final class AgreementTest {
 
     public static void main(String[] args) throws Exception {
         prepare();
-        int runs = args.length > 0 ? Integer.parseInt(args[0]) : 400;
+        int runs = args.length > 0 ? Integer.parseInt(args[0]) : 900;
         long calls = 0;
         int wrong = 0;
         for (int run = 0; run < runs; run++) {
@@ -124,7 +131,7 @@ public final class AgreementTest {
             same("person");
         }
         same("force", random.nextInt(3));
-        for (int i = 0; i < 300 && wrong == 0; i++) {
+        while (calls < most && wrong == 0) {
             int way = random.nextInt(20);
             if (way == 0) {
                 type(text(false));
@@ -147,6 +154,7 @@ public final class AgreementTest {
                 drawCall(NAMES.get(random.nextInt(NAMES.size())));
             }
         }
+        most = PROMISED;
         for (int what = 0; what < 16; what++) {
             same("count", what);
         }
@@ -200,6 +208,9 @@ public final class AgreementTest {
     }
 
     private void same(String name, int... numbers) throws Exception {
+        if (calls >= most) {
+            return;
+        }
         calls++;
         Object[] boxed = Arrays.stream(numbers).boxed().toArray();
         long got;

@@ -12,6 +12,7 @@ public final class EdgesChangesTest {
         lack();
         find();
         weigh();
+        nothingElse();
         monthBelow999();
         pricesStayWithin();
         askedAsItWasAhead();
@@ -21,6 +22,7 @@ public final class EdgesChangesTest {
         hear();
         forget();
         imagesKeep();
+        imagesKeepAll();
         imagesDoNotKeep();
         image();
         back();
@@ -98,6 +100,38 @@ public final class EdgesChangesTest {
         edge.is("of(2, 2)", b.of(2, 2), 7);
         b.lack(2);
         edge.granted("one that LACKS", b, x -> x.weigh(2, 8), 7);
+    }
+
+    private static void nothingElse() {
+        edge.says("To LACK, to FIND again. To WEIGH: another WEIGHT.");
+        GladBasket b = basket();
+        int[] asItWas = traits(b);
+        b.lack(1);
+        asItWas[7 + 5] = 1;
+        alike("lack(1)", b, asItWas);
+        b.weigh(0, 77);
+        asItWas[2] = 77;
+        alike("weigh(0, 77)", b, asItWas);
+        b.find(1);
+        asItWas[7 + 5] = 0;
+        alike("find(1)", b, asItWas);
+        b.pass();
+        alike("pass() without a LAW", b, asItWas);
+    }
+
+    private static int[] traits(GladBasket b) {
+        int[] traits = new int[21];
+        for (int i = 0; i < 21; i++) {
+            traits[i] = b.of(i / 7, i % 7);
+        }
+        return traits;
+    }
+
+    private static void alike(String what, GladBasket b, int[] want) {
+        int[] got = traits(b);
+        for (int i = 0; i < 21; i++) {
+            edge.is("of(" + i / 7 + ", " + i % 7 + ") behind " + what, got[i], want[i]);
+        }
     }
 
     private static void monthBelow999() {
@@ -206,12 +240,18 @@ public final class EdgesChangesTest {
     private static void ofAllKinds(int many) {
         GladBasket b = basket();
         Due.enforce(b, "moves 1 if good=month%3;moves 0-1 if good=[month+1]%3");
+        // A looked at twin leaves the object's calls, of which 512 are promised, for what is undone.
+        GladBasket twin = basket();
+        Due.enforce(twin, "moves 1 if good=month%3;moves 0-1 if good=[month+1]%3");
         String[] seen = new String[many + 1];
-        seen[0] = state(b);
+        seen[0] = state(twin);
         for (int i = 1; i <= many; i++) {
             changeOnce(b, i - 1);
-            seen[i] = state(b);
+            changeOnce(twin, i - 1);
+            seen[i] = state(twin);
         }
+        // ORDERS that can't be leave all of it as it was.
+        edge.is("orders()", Due.orders(b, "weigh 2 by 1 times 20;pass times 20;weigh 1 by 2 times 20;find 9"), -3);
         int left = Math.min(16, many);
         for (int i = many - 1; i >= many - left; i--) {
             edge.is("undo() of " + i + " of " + many, b.undo(), kindOf(i));
@@ -329,6 +369,60 @@ public final class EdgesChangesTest {
                     return x.back(image);
                 }, Edge.allLooks(), "fault()", "stopped()", "commas()");
             }
+        }
+    }
+
+    /** As many as there can be of each, and then as many others. */
+    private static void imagesKeepAll() {
+        edge.says("IMAGES 0, 1 keep all but");
+        for (int k = 0; k < 2; k++) {
+            GladBasket b = new GladBasket();
+            b.image(1 - k);
+            fill(b, 0);
+            b.image(k);
+            b.back(1 - k);
+            fill(b, 1);
+            for (int good = 0; good < 8; good++) {
+                b.own(good % 5, good, 1);
+            }
+            b.back(k);
+            edge.is("HEARD: the rise", b.trend(0), 7);
+            edge.is("HEARD: in month 0", b.trend(2), 900);
+            for (int law = 0; law < 6; law++) {
+                b.force(law);
+                edge.is("LAW " + law, b.asks(0, 1), 10 + law);
+            }
+            for (int good = 0; good < 8; good++) {
+                for (int what = 0; what < 6; what++) {
+                    int[] want = {good + 1, 12 - good, 20 + good, good % 7, 3 * good, 0};
+                    edge.is("of(" + good + ", " + what + ")", b.of(good, what), want[what]);
+                }
+                edge.is("of(" + good + ", 6)", b.of(good, 6), (good + 1) % 8);
+                for (int person = 0; person < 5; person++) {
+                    edge.is("own(" + person + ", " + good + ")", b.own(person, good, 0), (person + good) % 10);
+                }
+            }
+        }
+    }
+
+    private static void fill(GladBasket b, int other) {
+        for (int good = 0; good < 8; good++) {
+            b.good(good + 1 - other * good, 12 - good, 20 + good + other, (good + other) % 7, 3 * good + other);
+        }
+        for (int good = 0; good < 8; good++) {
+            b.stand(good, (good + 1 + other) % 8);
+        }
+        for (int person = 0; person < 5; person++) {
+            b.person();
+            for (int good = 0; good < 8 && other == 0; good++) {
+                b.own(person, good, (person + good) % 10);
+            }
+        }
+        for (int i = 0; i < 12; i++) {
+            b.hear(900 + 7 * i - other * 60 * i);
+        }
+        for (int law = 0; law < 6; law++) {
+            Due.law(b, "counts " + (10 + law + 20 * other));
         }
     }
 

@@ -226,6 +226,11 @@ public final class EdgesFiguresTest {
         edge.is("199/200 to 1", basket(10, 10, 99, 10, 9, 1).pension(), 99);
         edge.is("1", basket(7, 7, 1).pension(), 100);
         edge.is("nothing COUNTS", basket(1, 12, 0).pension(), 100);
+        GladBasket b = basket(3, 2, 1, 1, 12, 0);
+        Due.enforce(b, "counts good");
+        edge.is("what COUNTS by the LAW in FORCE", b.pension(), 1200);
+        b.force(NONE);
+        edge.is("what COUNTS by none", b.pension(), 66);
         edge.leavesAll("pension() of an empty basket", Edge.EMPTY, 100, x -> x.pension());
         edge.leavesAll("pension() of a basket in use", Edge.MIDDLE, Edge.made(Edge.MIDDLE).pension(), x -> x.pension());
     }

@@ -74,14 +74,24 @@ public final class EdgesGoodsTest {
             edge.granted("GOOD " + good, b, x -> x.good(1, 1, 0, 0, 0), good);
             edge.is("count(0)", b.count(0), good + 1);
         }
+        edge.is("a ninth", b.good(1, 1, 0, 0, 0), -5);
+        edge.is("count(0)", b.count(0), 8);
         edge.refused("a ninth", Edge.FULL, -5, x -> x.good(1, 1, 0, 0, 0));
         edge.refused("a ninth that can't be", Edge.FULL, -1, x -> x.good(1, 1, 0, 0, 25));
         edge.is("the first GOOD is as it was", b.of(0, 0), 1);
         edge.is("there is no ninth", b.of(8, 0), NONE);
+        GladBasket fewer = new GladBasket();
+        fewer.image(0);
+        for (int good = 0; good < 8; good++) {
+            fewer.good(1, 1, 0, 0, 0);
+        }
+        fewer.years(1, 1);
+        fewer.back(0);
+        edge.granted("there is room again behind back()", fewer, x -> x.good(1, 1, 0, 0, 0), 0);
     }
 
     private static void steps() {
-        edge.says("a PLACE 0 .. 24 (5 y and x; x, y 0 .. 4; STEPS between: |x| and |y|)");
+        edge.says("(5 y and x; x, y 0 .. 4; STEPS between: |x| and |y|)");
         for (int from = 0; from < 25; from++) {
             for (int to = 0; to < 25; to++) {
                 GladBasket b = new GladBasket();

@@ -26,6 +26,7 @@ public final class EdgesLawsTest {
         noneInForce();
         clauses();
         words();
+        askedOfAGood();
         holds();
         moves();
         counts();
@@ -506,6 +507,23 @@ public final class EdgesLawsTest {
             }
             b.lack(1);
             want[5] = 1;
+        }
+    }
+
+    private static void askedOfAGood() {
+        edge.says("All are asked of a GOOD.");
+        GladBasket b = new GladBasket();
+        for (int good = 0; good < 8; good++) {
+            b.good(good + 1, 12 - good, 10 * good, good, 3 * good);
+        }
+        b.lack(7);
+        b.stand(7, 0);
+        Due.enforce(b, "moves good-4;counts weight+base+place;glads now%10;bars if lacks=1 or glad=3");
+        for (int good = 0; good < 8; good++) {
+            edge.is("asks(" + good + ", 0)", b.asks(good, 0), good - 4);
+            edge.is("asks(" + good + ", 1)", b.asks(good, 1), Math.min(99, 10 * good + good + 1 + 3 * good));
+            edge.is("asks(" + good + ", 2)", b.asks(good, 2), (12 - good) % 10);
+            edge.is("asks(" + good + ", 3)", b.asks(good, 3), good == 3 || good == 7 ? 1 : 0);
         }
     }
 

@@ -13,6 +13,7 @@ public final class EdgesOrdersTest {
         goodsOfWords();
         parts();
         limitsOfBothLanguages();
+        whatTheyDo();
         howOften();
         eachTimeItsIf();
         doneAndLatest();
@@ -198,6 +199,26 @@ public final class EdgesOrdersTest {
 
     // ---- How they are run
 
+    private static void whatTheyDo() {
+        edge.says("(a GOOD; a GOOD; a GOOD, its WEIGHT; a MONTH.)");
+        GladBasket b = basket();
+        edge.granted("lack 2", b, x -> ordersOf(x, "lack 2"), 1);
+        edge.is("of(2, 5)", b.of(2, 5), 1);
+        edge.is("count(1)", b.count(1), 1);
+        edge.granted("weigh 1 by 99", b, x -> ordersOf(x, "weigh 1 by 99"), 1);
+        edge.is("of(1, 2)", b.of(1, 2), 99);
+        edge.granted("weigh 1 by 0", b, x -> ordersOf(x, "weigh 1 by 0"), 1);
+        edge.is("of(1, 2)", b.of(1, 2), 0);
+        edge.granted("pass", b, x -> ordersOf(x, "pass"), 1);
+        edge.is("count(13)", b.count(13), 1);
+        edge.granted("find 2", b, x -> ordersOf(x, "find 2"), 1);
+        edge.is("of(2, 5)", b.of(2, 5), 0);
+        int[] kinds = {1, 3, 2, 2, 0, -3};
+        for (int kind : kinds) {
+            edge.is("undo()", b.undo(), kind);
+        }
+    }
+
     private static void howOften() {
         edge.says("Run CLAUSE by CLAUSE, each as often as TIMES tell (once without)");
         edge.promises(14, "ORDERS, the TAPE is empty then: how many were run.");
@@ -283,6 +304,10 @@ public final class EdgesOrdersTest {
         // 24 + 3 * 50 by 12 + 6 * 50 are 55 of a hundred, 24 + 3 * 5 by 12 + 6 * 5 are 92
         edge.granted("figure as it is each time", b, x -> ordersOf(x, "weigh 2 by figure%10 times 2 if month=0"), 2);
         edge.is("of(2, 2)", b.of(2, 2), 2);
+        b = basket();
+        Due.enforce(b, "counts 0;counts 1 if good=2");
+        edge.granted("figure by the LAW in FORCE", b, x -> ordersOf(x, "weigh 0 by figure"), 1);
+        edge.is("of(0, 2)", b.of(0, 2), 50);
         GladBasket empty = new GladBasket();
         edge.granted("without any GOOD", empty, x -> ordersOf(x, "pass if now 0=0-1 and weight 0=0-1 and figure=100"), 1);
     }

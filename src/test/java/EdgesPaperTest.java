@@ -62,7 +62,7 @@ public final class EdgesPaperTest {
     }
 
     private static void ofEachUpToNine() {
-        edge.says("of each GOOD that does not LACK, is not BARRED 0 .. 9, so that together they make GLAD by n or more");
+        edge.says("(On paper:) as GLAD: of each GOOD that does not LACK, is not BARRED 0 .. 9, so that together they make GLAD by n or more");
         cheapest(wares(2, 1), 9, 18, 9);
         cheapest(wares(2, 1), 10, NONE);
         cheapest(wares(2, 9), 81, 18, 9);
@@ -181,7 +181,8 @@ public final class EdgesPaperTest {
     }
 
     private static void through() {
-        edge.says("through the PLACES of all GOODS that COUNT 1 or more (of STAND-INS for those that LACK): the fewest STEPS");
+        edge.says("A ROUND from a PLACE: through the PLACES of all GOODS that COUNT 1 or more (of STAND-INS for those that "
+                + "LACK): the fewest STEPS");
         way(places(), 0, 0);
         GladBasket b = places(24, 4);
         way(b, 0, 8, 1, 0);
@@ -383,6 +384,19 @@ public final class EdgesPaperTest {
         edge.leavesAll("no GOODS: how many", Edge.EMPTY, NONE, x -> x.ask(0, 0, 1));
         edge.leavesAll("no sets: the GOOD", NONE, x -> x.ask(99, 99, 0));
         edge.leavesAll("no sets: how many", NONE, x -> x.ask(99, 99, 1));
+        GladBasket all = wares(12, 9, 12, 9, 12, 9, 12, 9, 12, 9, 12, 9, 12, 9, 12, 9);
+        asked(all, 96, 72, 0, 1);
+        asked(all, 97, 72, NONE, NONE);
+        asked(all, 96, 73, NONE, NONE);
+        asked(all, 48, 36, 0, 35);
+        asked(all, 84, 63, 0, 7);
+        asked(all, 99, 72, NONE, NONE);
+        GladBasket free = wares(1, 9, 1, 9, 1, 9, 1, 9, 1, 9, 1, 9, 1, 9, 1, 9);
+        asked(free, 8, 72, 0, 1);
+        asked(free, 7, 63, 0, 7);
+        GladBasket dear = wares(12, 0, 12, 0, 12, 0, 12, 0, 12, 0, 12, 0, 12, 0, 12, 0);
+        asked(dear, 96, 0, 0, 1);
+        asked(dear, 84, 0, 0, 7);
         edge.leavesAll("the empty set", Edge.FULL, 0, x -> x.ask(0, 0, 0));
         edge.leavesAll("the empty set", Edge.FULL, 1, x -> x.ask(0, 0, 1));
     }
@@ -458,6 +472,22 @@ public final class EdgesPaperTest {
         line(1, 1, 0, 1, 0, 1, 2, 3, 4, 5, 6, 7, 8, 9, 10, 11);
         line(17982, 143, -4995, 26, 0, 0, 0, 0, 0, 0, 999, 999, 999, 999, 999, 999);
         line(-17982, 143, 30969, 26, 999, 999, 999, 999, 999, 999, 0, 0, 0, 0, 0, 0);
+        edge.says("of months 0, 1, ..");
+        line(1, 1, 500, 1, 500, 501);
+        line(10, 1, 3, 1, 3, 13, 23, 33);
+        line(-3, 1, 33, 1, 33, 30, 27, 24, 21, 18, 15, 12, 9, 6, 3, 0);
+        GladBasket b = new GladBasket();
+        b.terms(0, 40);
+        b.hear(7);
+        b.pass();
+        b.pass();
+        b.hear(9);
+        edge.is("not by the MONTH in which it was HEARD: the rise", b.trend(0), 2);
+        edge.is("not by the MONTH in which it was HEARD: in month 0", b.trend(2), 7);
+        b.forget();
+        b.hear(4);
+        b.hear(5);
+        edge.is("behind forget() from month 0 again", b.trend(2), 4);
     }
 
     private static void twoAtLeast() {
@@ -493,7 +523,8 @@ public final class EdgesPaperTest {
     }
 
     private static void gets() {
-        edge.says("that NOW of a GOOD is 12 behind n months in each of which it is one more in RISES of ten (12 it stays)");
+        edge.says("GETS: the chance, of 1,000,000,000,000 parts, that NOW of a GOOD is 12 behind n months in each of which it is "
+                + "one more in RISES of ten (12 it stays)");
         edge.promises(36, "GETS in n months 0 .. 60. NONE.");
         for (int n : new int[] {-1, 61, MIN, MAX}) {
             edge.leavesAll("gets(0, " + n + ")", NONE, x -> x.gets(0, n));

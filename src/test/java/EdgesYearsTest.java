@@ -77,7 +77,7 @@ public final class EdgesYearsTest {
 
     private static void draws() {
         edge.says("a DRAW of m: s becomes (s times 1103 and 12345) modulo 1,000,003, it is s modulo m");
-        edge.says("DRAWS of GOODS, of 4");
+        edge.says("Each month (at MONTH 999 it ends) DRAWS of GOODS, of 4");
         for (int goods = 1; goods <= 8; goods++) {
             for (int seed = 0; seed <= TOP_SEED; seed += 9901) {
                 GladBasket b = basket(5, goods);
@@ -204,6 +204,14 @@ public final class EdgesYearsTest {
         Due.enforce(b, "moves 0-9 if month>0");
         edge.is("the greatest, not the last", b.years(found, 2), 900);
         edge.is("the last", b.drawn(0, 0), 1);
+        b = basket(9, 1);
+        b.good(1, 4, 1, 0, 0);
+        Due.enforce(b, "counts good;moves 1");
+        int other = 0;
+        while (firstDraws(other, 2)[0] != 0) {
+            other++;
+        }
+        edge.is("what COUNTS by the LAW in FORCE", b.years(other, 1), 500);
         b = basket(9, 1);
         edge.is("all LACK without STAND-INS", b.years(seedThatBrings(0), 1), 100);
     }

@@ -26,7 +26,7 @@ public final class ImagesTest {
 
     private static String look(GladBasket b) {
         StringBuilder s = new StringBuilder();
-        for (int good = 0; good < 8; good++) {
+        for (int good = 0; good <= b.count(0); good++) {
             for (int what = 0; what < 7; what++) {
                 s.append(b.of(good, what)).append(' ');
             }
@@ -77,7 +77,7 @@ public final class ImagesTest {
         String second = look(b);
         due.holds("the looks differ", !first.equals(second));
         b.image(1);
-        for (int times = 0; times < 3; times++) {
+        for (int times = 0; times < 2; times++) {
             b.back(0);
             due.holds("back(0) is as it was", look(b).equals(first));
             b.terms(0, 9);
@@ -88,10 +88,9 @@ public final class ImagesTest {
         }
         b.image(0);
         b.back(1);
-        due.holds("IMAGE 1 stays", look(b).equals(second));
+        due.is(40, "IMAGE 1 stays: of(1, 2)", b.of(1, 2), 2);
         b.back(0);
-        due.holds("IMAGE 0 is another now", !look(b).equals(first));
-        due.is(40, "of(1, 2)", b.of(1, 2), 5);
+        due.is(40, "IMAGE 0 is another now: of(1, 2)", b.of(1, 2), 5);
         b.back(1);
         b.back(1);
         due.is(40, "a later GOOD has no OWN weight of before", b.good(1, 1, 1, 1, 1), 3);

@@ -192,12 +192,21 @@ public final class OrdersTest {
         cannot(b, "weigh 1 by 0 - 1", 0);
         cannot(b, "lack 0;lack 0", 1);
         cannot(b, "lack 0 times 2", 0);
+        due.is(41, "what can't be within is no call REFUSED by -2", b.count(8), wrongAhead);
+        due.is(41, "count(9)", b.count(9), 8);
+        b = basket();
+        Due.enforce(b, "moves 1");
         cannot(b, "lack 1 / 0", 0);
         cannot(b, "weigh 0 by 1 / done", 0);
         cannot(b, "weigh 1 / 0 by 1", 0);
         cannot(b, "pass times 20;pass times 20;lack 1000 * 1000 * 1000", 2);
-        due.is(41, "what can't be within is no call REFUSED by -2", b.count(8), wrongAhead);
-        due.is(41, "count(9)", b.count(9), 12);
+        due.is(41, "count(9)", b.count(9), 4);
+        behindChanges();
+    }
+
+    private static void behindChanges() {
+        GladBasket b = basket();
+        Due.enforce(b, "moves 1");
         b.weigh(0, 9);
         b.pass();
         cannot(b, "pass times 20;find 0", 1);

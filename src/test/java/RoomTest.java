@@ -1,6 +1,6 @@
 import com.sun.management.ThreadMXBean;
 import java.lang.management.ManagementFactory;
-import java.util.function.IntConsumer;
+import java.util.function.ObjIntConsumer;
 
 /** How much room the calls take: all of a run live in one, of some 600,000 objects and 7.3 million elements. */
 public final class RoomTest {
@@ -12,16 +12,11 @@ public final class RoomTest {
             + "glads 4 if lacks=1;glads 3;counts [[weight]]+3 if good>2;moves 0-1 if good=3 and now>base";
     private static final String ORDERS = "weigh 0 by figure%90 times 20;weigh 1 by figure%80 times 20;pass times 20;"
             + "lack 2 if lacking=0;find 2 times 20 if lacking=1;pass times 20 if figure>0;weigh 2 by now 0+weight 1%9";
+    // Of 512 calls that are promised, those that are left when a basket has been set.
+    private static final int CALLS = 440;
     private static int wrong = 0;
-    private static final GladBasket basket = new GladBasket();
 
     public static void main(String[] args) {
-        for (int good = 0; good < 8; good++) {
-            basket.good(good + 1, 12 - good, 10 + good, good + 1, good * 3);
-        }
-        Due.enforce(basket, LAW);
-        basket.image(0);
-        basket.image(1);
         // What is measured is warm: the first of all calls load classes.
         measureAll(false);
         measureAll(true);
@@ -31,62 +26,80 @@ public final class RoomTest {
         }
     }
 
-    private static void measureAll(boolean judged) {
-        long little = 1 << 14;
-        measure(judged, "figures", little, i -> {
-            basket.figure(i % 4, i % 2);
-            basket.turned(i % 4, i % 2);
-            basket.pension();
-            basket.does(i % 8);
-            basket.compare(0);
-        });
-        measure(judged, "glad", little, i -> basket.glad(i % 100, i % 9));
-        measure(judged, "round", little, i -> basket.round(i % 25, i % 8 - 1));
-        measure(judged, "spent and ask", little, i -> {
-            basket.spent(i % 50, i % 30, -1);
-            basket.ask(i % 50, i % 30, 0);
-        });
-        measure(judged, "years", little, i -> basket.years(i, 60));
-        measure(judged, "gets", little, i -> basket.gets(i % 8, i % 61));
-        measure(judged, "hear and trend", little, i -> {
-            basket.hear(i);
-            basket.trend(i % 4);
-        });
-        measure(judged, "changes", little, i -> {
-            basket.lack(i % 8);
-            basket.find(i % 7);
-            basket.weigh(i % 8, i % 100);
-            basket.pass();
-            basket.undo();
-        });
-        measure(judged, "images", little, i -> {
-            basket.image(i % 2);
-            basket.back(i % 2);
-        });
-        // The texts here are typed by the test itself, which makes some rows of its own.
-        measure(judged, "orders", 512L * 2000, i -> {
-            Due.type(basket, ORDERS);
-            basket.orders();
-            basket.back(0);
-        });
-        // 512 of the dearest LAWS: some thousand elements each.
-        measure(judged, "law", 512L * 8000, i -> {
-            Due.type(basket, LAW);
-            basket.law();
-            basket.back(0);
-        });
-        measure(judged, "a new object", 512L * 60000, i -> new GladBasket());
+    private static GladBasket basket() {
+        GladBasket basket = new GladBasket();
+        for (int good = 0; good < 8; good++) {
+            basket.good(good + 1, 12 - good, 10 + good, good + 1, good * 3);
+        }
+        Due.enforce(basket, LAW);
+        basket.image(0);
+        basket.image(1);
+        return basket;
     }
 
-    private static void measure(boolean judged, String what, long bytes, IntConsumer call) {
+    private static void measureAll(boolean judged) {
+        measure(judged, "figures", 5, 0, (b, i) -> {
+            b.figure(i % 4, i % 2);
+            b.turned(i % 4, i % 2);
+            b.pension();
+            b.does(i % 8);
+            b.compare(0);
+        });
+        measure(judged, "glad", 1, 0, (b, i) -> b.glad(i % 100, i % 9));
+        measure(judged, "round", 1, 0, (b, i) -> b.round(i % 25, i % 8 - 1));
+        measure(judged, "spent and ask", 2, 0, (b, i) -> {
+            b.spent(i % 50, i % 30, -1);
+            b.ask(i % 50, i % 30, 0);
+        });
+        measure(judged, "years", 1, 0, (b, i) -> b.years(i, 60));
+        measure(judged, "gets", 1, 0, (b, i) -> b.gets(i % 8, i % 61));
+        measure(judged, "hear and trend", 2, 0, (b, i) -> {
+            b.hear(i);
+            b.trend(i % 4);
+        });
+        measure(judged, "changes", 5, 0, (b, i) -> {
+            b.lack(i % 8);
+            b.find(i % 7);
+            b.weigh(i % 8, i % 100);
+            b.pass();
+            b.undo();
+        });
+        measure(judged, "images", 2, 0, (b, i) -> {
+            b.image(i % 2);
+            b.back(i % 2);
+        });
+        // The texts here are typed by the test itself, which makes some rows of its own.
+        measure(judged, "orders", typing(ORDERS) + 2, 2000, (b, i) -> {
+            Due.type(b, ORDERS);
+            b.orders();
+            b.back(0);
+        });
+        // The dearest of LAWS has some thousand elements.
+        measure(judged, "law", typing(LAW) + 2, 8000, (b, i) -> {
+            Due.type(b, LAW);
+            b.law();
+            b.back(0);
+        });
+        measure(judged, "a new object", 1, 60000, (b, i) -> new GladBasket());
+    }
+
+    private static int typing(String text) {
+        return (text.length() + 19) / 20 + 1;
+    }
+
+    /** So many calls each time, which may take so many bytes; all of them together a little. */
+    private static void measure(boolean judged, String what, int calls, long bytes, ObjIntConsumer<GladBasket> each) {
+        GladBasket basket = basket();
+        int times = CALLS / calls;
         long before = THREADS.getThreadAllocatedBytes(Thread.currentThread().getId());
-        for (int i = 0; i < 512; i++) {
-            call.accept(i);
+        for (int i = 0; i < times; i++) {
+            each.accept(basket, i);
         }
         long taken = THREADS.getThreadAllocatedBytes(Thread.currentThread().getId()) - before;
-        if (judged && taken > bytes) {
+        long most = times * bytes + (1 << 14);
+        if (judged && taken > most) {
             wrong++;
-            System.out.println("512 times " + what + " took " + taken + " bytes, at most " + bytes + " are due");
+            System.out.println(times + " times " + what + " took " + taken + " bytes, at most " + most + " are due");
         }
     }
 }
