@@ -41,12 +41,18 @@ final class Edge {
 
     Edge(String name) throws IOException {
         due = new Due(name);
-        document = oneLine(Files.readString(Path.of("../shared/DOC.md")));
+        document = oneLine(theDocument());
+    }
+
+    /** Empty, if it is not where the tests are run: the class is tested all the same. */
+    static String theDocument() throws IOException {
+        Path path = Path.of("../shared/DOC.md");
+        return Files.exists(path) ? Files.readString(path) : "";
     }
 
     /** A sentence that has been changed wants another look, but tells nothing of the class: it is no failure. */
-    private static void notice(boolean stands, String words) {
-        if (!stands) {
+    private void notice(boolean stands, String words) {
+        if (!stands && !document.isEmpty()) {
             System.out.println("the document does not say (any more): " + words);
         }
     }
