@@ -336,6 +336,12 @@ public final class EdgesChangesTest {
     private static void forget() {
         edge.promises(32, "HEARD is nothing then: how often there was.");
         edge.leavesAll("forget() of nothing", Edge.EMPTY, 0, x -> x.forget());
+        GladBasket few = new GladBasket();
+        for (int often = 1; often <= 3; often++) {
+            few.hear(often);
+        }
+        edge.is("forget() of three", few.forget(), 3);
+        edge.is("forget() again", few.forget(), 0);
         GladBasket b = Edge.made(Edge.FULL);
         int status = b.status();
         edge.is("forget() of twelve", b.forget(), 12);

@@ -308,6 +308,11 @@ public final class EdgesOrdersTest {
         Due.enforce(b, "counts 0;counts 1 if good=2");
         edge.granted("figure by the LAW in FORCE", b, x -> ordersOf(x, "weigh 0 by figure"), 1);
         edge.is("of(0, 2)", b.of(0, 2), 50);
+        b = basket();
+        Due.enforce(b, "moves 1+good");
+        edge.granted("now as it is behind a MONTH", b, x -> ordersOf(x, "pass times 2;weigh 0 by now 1;weigh 1 by weight 0+1"), 4);
+        edge.is("of(0, 2)", b.of(0, 2), 10);
+        edge.is("of(1, 2)", b.of(1, 2), 11);
         GladBasket empty = new GladBasket();
         edge.granted("without any GOOD", empty, x -> ordersOf(x, "pass if now 0=0-1 and weight 0=0-1 and figure=100"), 1);
     }
